@@ -14,6 +14,10 @@ final class Check {
         }
     }
 
+    static boolean allAsDue() {
+        return wrong == 0;
+    }
+
     static void finish() {
         System.out.println(calls + " answers, " + wrong + " not as due");
         if (wrong != 0 || calls == 0) {
