@@ -255,7 +255,27 @@ public final class GraphScheduler {
     }
 
     private boolean isOpen(int t) {
-        return isUnfinished(t) || statusOf[t] == COMMITTED;
+        return statusOf[t] == ACTIVE || statusOf[t] == WAITING || statusOf[t] == COMMITTED;
+    }
+
+    private long unfinishedSet() {
+        long set = 0;
+        for (int t = 1; t <= begun; t++) {
+            if (isUnfinished(t)) {
+                set |= bit(t);
+            }
+        }
+        return set;
+    }
+
+    private long openSet() {
+        long set = 0;
+        for (int t = 1; t <= begun; t++) {
+            if (isOpen(t)) {
+                set |= bit(t);
+            }
+        }
+        return set;
     }
 
     private int countOpen() {
@@ -377,12 +397,7 @@ public final class GraphScheduler {
     }
 
     private boolean mustWait(int t) {
-        for (int u = 1; u <= begun; u++) {
-            if (contains(readFrom[t], u) && isUnfinished(u)) {
-                return true;
-            }
-        }
-        return false;
+        return (readFrom[t] & unfinishedSet()) != 0;
     }
 
     private int commitWaiters() {
@@ -449,22 +464,14 @@ public final class GraphScheduler {
         }
     }
 
-    /** The smallest number is due first, so that the settled order is the only one possible. */
+    /** Several may be ready at once: the smallest number goes first. */
     private int firstSettleable() {
+        long open = openSet();
         for (int t = 1; t <= begun; t++) {
-            if (statusOf[t] == COMMITTED && !hasOpenPredecessor(t)) {
+            if (statusOf[t] == COMMITTED && (predecessors[t] & open) == 0) {
                 return t;
             }
         }
         return 0;
-    }
-
-    private boolean hasOpenPredecessor(int t) {
-        for (int u = 1; u <= begun; u++) {
-            if (contains(predecessors[t], u) && isOpen(u)) {
-                return true;
-            }
-        }
-        return false;
     }
 }

@@ -4,6 +4,7 @@ final class Promise07AbortTest implements Answers {
         takesReadersAlong();
         readersInAnyOrder();
         sparesOthers();
+        countsNobodyTwice();
         valuesComeBack();
         laterWritersRemain();
         removesEdges();
@@ -81,6 +82,18 @@ final class Promise07AbortTest implements Answers {
         r.value(0, 1);
         r.writer(0, 1);
         r.commit(1, 1);
+    }
+
+    private static void countsNobodyTwice() {
+        Run r = new Run("reader aborted before", 4, 2);
+        r.beginAll(1, 3);
+        r.write(1, 0, 1, DONE);
+        r.read(2, 0, 1);
+        r.read(3, 0, 1);
+        r.abort(2, 1);
+        r.status(1, ACTIVE);
+        r.abort(1, 2);
+        r.status(3, ABORTED);
     }
 
     private static void valuesComeBack() {

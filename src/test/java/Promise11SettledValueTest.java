@@ -3,6 +3,7 @@ final class Promise11SettledValueTest implements Answers {
         ordinary();
         latestByTheLog();
         addsCount();
+        firstLogEntry();
         Check.finish();
     }
 
@@ -56,5 +57,13 @@ final class Promise11SettledValueTest implements Answers {
         r.settledValue(0, 7);
         r.commit(2, 1);
         r.settledValue(0, 10);
+    }
+
+    private static void firstLogEntry() {
+        Run r = new Run("first entry of the log", 2, 1);
+        r.begin(1);
+        r.write(1, 0, 5, DONE);
+        r.commit(1, 1);
+        r.settledValue(0, 5);
     }
 }

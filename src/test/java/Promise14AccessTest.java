@@ -40,6 +40,7 @@ final class Promise14AccessTest implements Answers {
         r.access(1, 0, NOT_OPEN);
         r.access(2, 0, NOT_OPEN);
         committed();
+        logFull();
         Check.finish();
     }
 
@@ -53,5 +54,15 @@ final class Promise14AccessTest implements Answers {
         r.access(2, 0, 3);
         r.access(2, 1, 0);
         r.access(2, 2, NO_ITEM);
+    }
+
+    private static void logFull() {
+        Run r = new Run("log full", 2, 2);
+        r.begin(1);
+        r.readUntilLeft(1, 0, 0, 1);
+        r.access(1, 1, 0);
+        r.write(1, 1, 3, DONE);
+        r.access(1, 0, 1);
+        r.access(1, 1, 2);
     }
 }
