@@ -1,58 +1,23 @@
 final class Promise02BeginTest implements Answers {
     public static void main(String[] args) {
-        countsOpen();
-        endsAtMaxBegun();
-        noMoreGoesBeforeFull();
-        changesNothingElse();
+        Check.part("Promise 2: begin");
+        Check.sentence("begin(), refusals in order:", Promise02BeginTest::noMoreGoesBeforeFull);
+        Check.sentence("begun is MAX_BEGUN: NO_MORE.", Promise02BeginTest::noMore);
+        Check.sentence("begun is MAX_BEGUN: NO_MORE.", Promise02BeginTest::noMoreAfterAllHaveEnded);
+        Check.sentence("The number of open transactions is slots: FULL.", Promise02BeginTest::full);
+        Check.sentence("begun grows by one", Promise02BeginTest::begunGrowsByOne);
+        Check.sentence("is ACTIVE with no log entries", Promise02BeginTest::activeWithNoEntries);
+        Check.sentence("its number is the answer", Promise02BeginTest::theNumberIsTheAnswer);
+        Check.sentence("Nothing else changes; no settling is done.", Promise02BeginTest::nothingElseChanges);
+        Check.sentence("WAITING and COMMITTED transactions count as open here", Promise02BeginTest::waitingCounts);
+        Check.sentence("WAITING and COMMITTED transactions count as open here", Promise02BeginTest::committedCounts);
+        Check.sentence("SETTLED and ABORTED ones do not", Promise02BeginTest::settledDoesNotCount);
+        Check.sentence("SETTLED and ABORTED ones do not", Promise02BeginTest::abortedDoesNotCount);
         Check.finish();
     }
 
-    private static void countsOpen() {
-        Run r = new Run("open ones", 3, 2);
-        r.beginAll(1, 3);
-        r.begin(FULL);
-        r.status(4, NONE);
-        r.read(1, 1, 0);
-        r.write(2, 1, 4, DONE);
-        r.read(3, 1, 4);
-        r.commit(3, 0);
-        r.status(3, WAITING);
-        r.begin(FULL);
-        r.commit(2, 2);
-        r.status(2, COMMITTED);
-        r.status(3, COMMITTED);
-        r.begin(FULL);
-        r.abort(1, 1);
-        r.status(2, SETTLED);
-        r.status(3, SETTLED);
-        r.beginAll(4, 6);
-        r.begin(FULL);
-        r.abort(5, 1);
-        r.begin(7);
-        r.begin(FULL);
-    }
-
-    private static void endsAtMaxBegun() {
-        Run r = new Run("64 begun", 2, 1);
-        for (int t = 1; t <= MAX_BEGUN; t++) {
-            r.begin(t);
-            r.status(t, ACTIVE);
-            if (t < MAX_BEGUN) {
-                r.commit(t, 1);
-            }
-        }
-        r.begin(NO_MORE);
-        r.status(MAX_BEGUN, ACTIVE);
-        r.status(MAX_BEGUN + 1, NONE);
-        r.write(MAX_BEGUN, 0, 3, DONE);
-        r.writer(0, MAX_BEGUN);
-        r.commit(MAX_BEGUN, 1);
-        r.settledAt(MAX_BEGUN - 1, MAX_BEGUN);
-        r.begin(NO_MORE);
-    }
-
     private static void noMoreGoesBeforeFull() {
-        Run r = new Run("64 begun and full", 2, 1);
+        Run r = new Run(2, 1);
         for (int t = 1; t <= MAX_BEGUN - 2; t++) {
             r.begin(t);
             r.abort(t, 1);
@@ -62,29 +27,138 @@ final class Promise02BeginTest implements Answers {
         r.begin(NO_MORE);
     }
 
-    private static void changesNothingElse() {
-        Run r = new Run("begin alone", 4, 2);
-        r.beginAll(1, 2);
-        r.read(1, 0, 0);
-        r.write(2, 0, 8, DONE);
+    private static void noMore() {
+        Run r = Scenes.allBegun();
+        r.status(MAX_BEGUN, ACTIVE);
+        r.begin(NO_MORE);
+        r.begin(NO_MORE);
+        r.status(MAX_BEGUN + 1, NONE);
+        // The last one can do all that others can.
+        r.write(MAX_BEGUN, 0, 3, DONE);
+        r.writer(0, MAX_BEGUN);
+        r.commit(MAX_BEGUN, 1);
+        r.settledOrder(MAX_BEGUN);
+    }
+
+    private static void noMoreAfterAllHaveEnded() {
+        Run r = new Run(16, 1);
+        for (int t = 1; t <= MAX_BEGUN; t++) {
+            r.begin(t);
+            r.commit(t, 1);
+        }
+        r.begin(NO_MORE);
+        r.settledAt(MAX_BEGUN - 1, MAX_BEGUN);
+    }
+
+    private static void full() {
+        for (int slots = 2; slots <= 16; slots++) {
+            Run r = new Run(slots, 1);
+            r.beginAll(1, slots);
+            r.begin(FULL);
+            r.status(slots + 1, NONE);
+            r.abort(1, 1);
+            r.begin(slots + 1);
+            r.begin(FULL);
+        }
+    }
+
+    private static void begunGrowsByOne() {
+        Run r = new Run(3, 1);
+        for (int t = 1; t <= 3; t++) {
+            r.status(t, NONE);
+            r.begin(t);
+            r.status(t, ACTIVE);
+            r.status(t + 1, NONE);
+        }
+        r.begin(FULL);
+        r.status(4, NONE);
+    }
+
+    private static void activeWithNoEntries() {
+        Run r = Scenes.everyStatus();
+        r.begin(7);
+        r.status(7, ACTIVE);
+        for (int x = 0; x < Scenes.SCENE_ITEMS; x++) {
+            r.access(7, x, 0);
+            r.written(7, x, NOT_WRITTEN);
+        }
+        for (int t : new int[] {1, 2, 3, 6, 7}) {
+            r.before(7, t, 0);
+            r.before(t, 7, 0);
+            r.waitsFor(7, t, 0);
+            r.waitsFor(t, 7, 0);
+        }
+    }
+
+    private static void theNumberIsTheAnswer() {
+        Run r = new Run(2, 1);
+        r.begin(1);
+        r.abort(1, 1);
+        r.begin(2);
         r.commit(2, 1);
         r.begin(3);
-        r.status(1, ACTIVE);
+        r.begin(4);
+        r.read(4, 0, 0);
+        r.read(5, 0, NO_TXN);
+    }
+
+    private static void nothingElseChanges() {
+        Run r = Scenes.everyStatus();
+        Picture earlier = r.picture();
+        r.begin(7);
+        r.onlyChangedSince(earlier, 7);
+        r.status(3, COMMITTED);
+        r.settledOrder(4);
+    }
+
+    private static void waitingCounts() {
+        Run r = new Run(2, 1);
+        r.beginAll(1, 2);
+        r.write(1, 0, 4, DONE);
+        r.read(2, 0, 4);
+        r.commit(2, 0);
+        r.status(2, WAITING);
+        r.begin(FULL);
+    }
+
+    private static void committedCounts() {
+        Run r = new Run(2, 1);
+        r.beginAll(1, 2);
+        r.read(1, 0, 0);
+        r.write(2, 0, 4, DONE);
+        r.commit(2, 1);
         r.status(2, COMMITTED);
-        r.status(3, ACTIVE);
-        r.value(0, 8);
-        r.writer(0, 2);
-        r.settledAt(0, 0);
-        r.opsLeft(126);
-        for (int x = 0; x < 2; x++) {
-            r.access(3, x, 0);
-            r.written(3, x, NOT_WRITTEN);
-        }
-        for (int t = 1; t <= 3; t++) {
-            r.before(3, t, 0);
-            r.before(t, 3, 0);
-            r.waitsFor(3, t, 0);
-            r.waitsFor(t, 3, 0);
-        }
+        r.begin(FULL);
+    }
+
+    private static void settledDoesNotCount() {
+        Run r = new Run(2, 1);
+        r.beginAll(1, 2);
+        r.commit(2, 1);
+        r.status(2, SETTLED);
+        r.begin(3);
+        r.begin(FULL);
+        // One commit settles two.
+        r.read(1, 0, 0);
+        r.write(3, 0, 4, DONE);
+        r.commit(3, 1);
+        r.begin(FULL);
+        r.commit(1, 1);
+        r.beginAll(4, 5);
+        r.begin(FULL);
+    }
+
+    private static void abortedDoesNotCount() {
+        Run r = new Run(2, 1);
+        r.beginAll(1, 2);
+        r.abort(1, 1);
+        r.begin(3);
+        r.begin(FULL);
+        // One abort takes a reader along.
+        r.write(2, 0, 4, DONE);
+        r.read(3, 0, 4);
+        r.abort(2, 2);
+        r.beginAll(4, 5);
+        r.begin(FULL);
     }
 }

@@ -1,150 +1,121 @@
 final class Promise03ReadTest implements Answers {
     public static void main(String[] args) {
-        refusals();
-        committedIsNotActive();
-        noOps();
-        answersTheCurrentValue();
-        readsFrom();
-        readsDoNotConflict();
-        cycleAborts();
-        cycleThroughSeveral();
-        cycleTakesReadersAndSettles();
+        Check.part("Promise 3: read");
+        Check.sentence("read(t, x): transaction t reads item x.", Promise03ReadTest::readsTheItem);
+        Check.sentence("Refusals in order:", Promise03ReadTest::refusalsInOrder);
+        Check.sentence("t < 1 or t > begun: NO_TXN.", Promise03ReadTest::noTransaction);
+        Check.sentence("t is not ACTIVE: NOT_ACTIVE.", Promise03ReadTest::notActive);
+        Check.sentence("x < 0 or x >= items: NO_ITEM.", Promise03ReadTest::noItem);
+        Check.sentence("The log has MAX_OPS entries: NO_OPS.", Promise03ReadTest::logFull);
+        Check.sentence("The log has MAX_OPS entries: NO_OPS.", Promise03ReadTest::logFullBeforeCycle);
+        Check.sentence("if the graph would have a cycle once this read were entered in the log", Promise03ReadTest::cycleOfTwo);
+        Check.sentence("if the graph would have a cycle once this read were entered in the log", Promise03ReadTest::cycleOfFour);
+        Check.sentence("if the graph would have a cycle once this read were entered in the log", Promise03ReadTest::noCycle);
+        Check.sentence("the read is not entered", Promise03ReadTest::cycleIsNotEntered);
+        Check.sentence("adds no reading-from", Promise03ReadTest::cycleAddsNoReading);
+        Check.sentence("t is aborted (aborting, with its settling)", Promise03ReadTest::cycleSettles);
+        Check.sentence("and the answer is CYCLE", Promise03ReadTest::cycleIsTheAnswer);
+        Check.sentence("Other transactions that have read from t, directly or through others", Promise03ReadTest::cycleTakesReaders);
+        Check.sentence("current values and last writers follow from the entries that still stand", Promise03ReadTest::cycleTakesValuesBack);
+        Check.sentence("Otherwise the read is entered", Promise03ReadTest::entered);
+        Check.sentence("reading from is noted as defined above", Promise03ReadTest::readingIsNoted);
+        Check.sentence("the answer is the current value of x", Promise03ReadTest::currentValue);
+        Check.sentence("by t itself or by another transaction", Promise03ReadTest::ownAndOthersValues);
+        Check.sentence("0 if there is none.", Promise03ReadTest::nothingStands);
+        Check.sentence("No status, value or last writer changes, and no settling is done.", Promise03ReadTest::nothingElseChanges);
         Check.finish();
     }
 
-    private static void refusals() {
-        Run r = new Run("refusals", 4, 2);
-        r.read(1, 0, NO_TXN);
-        r.beginAll(1, 4);
-        for (int t : new int[] {LOW, -1, 0, 5, 65, HIGH}) {
-            r.read(t, 0, NO_TXN);
-            r.read(t, -1, NO_TXN);
+    private static void readsTheItem() {
+        Run r = new Run(2, 8);
+        r.begin(1);
+        for (int x = 0; x < 8; x++) {
+            r.write(1, x, 10 + x, DONE);
         }
-        r.write(1, 0, 1, DONE);
-        r.read(2, 0, 1);
-        r.commit(2, 0);
-        r.abort(3, 1);
-        r.read(4, 1, 0);
-        r.commit(4, 1);
-        r.status(4, SETTLED);
-        for (int t = 2; t <= 4; t++) {
-            r.read(t, 0, NOT_ACTIVE);
-            r.read(t, 2, NOT_ACTIVE);
+        r.begin(2);
+        for (int x = 0; x < 8; x++) {
+            r.read(2, x, 10 + x);
         }
-        for (int x : new int[] {LOW, -1, 2, 8, HIGH}) {
-            r.read(1, x, NO_ITEM);
-        }
-        r.opsLeft(125);
-        r.status(1, ACTIVE);
-        r.commit(1, 2);
     }
 
-    private static void committedIsNotActive() {
-        Run r = new Run("committed reader", 2, 1);
-        r.beginAll(1, 2);
-        r.read(1, 0, 0);
-        r.write(2, 0, 1, DONE);
-        r.commit(2, 1);
-        r.status(2, COMMITTED);
+    private static void refusalsInOrder() {
+        Run r = Scenes.everyStatusAndLogFull();
+        r.read(7, 3, NO_TXN);
+        r.read(7, 0, NO_TXN);
+        r.read(2, 3, NOT_ACTIVE);
         r.read(2, 0, NOT_ACTIVE);
+        r.read(6, 3, NO_ITEM);
+        r.read(6, 0, NO_OPS);
+        r = Scenes.everyStatus();
+        r.read(7, 3, NO_TXN);
+        r.read(5, 3, NOT_ACTIVE);
     }
 
-    private static void noOps() {
-        Run r = new Run("log full", 3, 2);
-        r.beginAll(1, 3);
-        r.read(2, 1, 0);
-        r.write(1, 1, 7, DONE);
-        r.write(1, 0, 5, DONE);
-        r.commit(3, 1);
-        r.readUntilLeft(1, 0, 5, 0);
-        r.read(1, 0, NO_OPS);
-        r.read(1, 2, NO_ITEM);
-        r.read(3, 0, NOT_ACTIVE);
-        r.read(4, 0, NO_TXN);
-        // This read would close a cycle, but a full log is a refusal and goes first.
-        r.read(2, 0, NO_OPS);
-        r.status(2, ACTIVE);
-        r.waitsFor(2, 1, 0);
-        r.opsLeft(0);
+    private static void noTransaction() {
+        new Run(2, 1).read(1, 0, NO_TXN);
+        Run r = Scenes.everyStatus();
+        for (int t : Scenes.NOT_BEGUN) {
+            r.read(t, 0, NO_TXN);
+        }
+        r = Scenes.allBegun();
+        r.read(MAX_BEGUN + 1, 0, NO_TXN);
+        r.read(MAX_BEGUN, 0, 0);
     }
 
-    private static void answersTheCurrentValue() {
-        Run r = new Run("values", 4, 3);
-        r.beginAll(1, 4);
-        r.read(1, 0, 0);
-        r.write(1, 0, 11, DONE);
-        r.read(1, 0, 11);
-        r.add(1, 0, 4, 15);
-        r.read(2, 0, 15);
-        r.write(2, 0, 20, DONE);
-        r.read(3, 0, 20);
-        r.read(3, 1, 0);
-        r.value(0, 20);
-        r.writer(0, 2);
-        r.opsLeft(120);
-        r.abort(2, 2);
-        r.read(4, 0, 15);
-        r.access(4, 0, 1);
-        r.written(4, 0, NOT_WRITTEN);
-        r.writer(0, 1);
+    private static void notActive() {
+        Run r = Scenes.everyStatus();
+        for (int t = 2; t <= 5; t++) {
+            r.read(t, 0, NOT_ACTIVE);
+        }
     }
 
-    private static void readsFrom() {
-        Run r = new Run("reading from", 5, 3);
-        r.beginAll(1, 4);
-        r.write(1, 0, 1, DONE);
-        r.read(1, 0, 1);
-        r.waitsFor(1, 1, 0);
-        r.read(2, 0, 1);
-        r.waitsFor(2, 1, 1);
-        r.waitsFor(1, 2, 0);
-        r.write(2, 1, 2, DONE);
-        r.read(3, 1, 2);
-        r.waitsFor(3, 2, 1);
-        r.waitsFor(3, 1, 0);
-        r.commit(2, 0);
-        r.read(4, 1, 2);
-        r.waitsFor(4, 2, 1);
-        r.commit(1, 2);
-        r.waitsFor(4, 2, NOT_OPEN);
-        r.begin(5);
-        r.read(5, 1, 2);
-        r.commit(5, 1);
+    private static void noItem() {
+        Run r = Scenes.everyStatus();
+        for (int x : Scenes.BAD_ITEMS) {
+            r.read(6, x, NO_ITEM);
+        }
+        r.read(6, 0, 33);
+        r.read(6, 2, 0);
     }
 
-    private static void readsDoNotConflict() {
-        Run r = new Run("two reads", 3, 2);
+    private static void logFull() {
+        Run r = new Run(2, 1);
         r.beginAll(1, 2);
-        r.read(1, 0, 0);
+        r.readUntilLeft(1, 0, 0, 1);
         r.read(2, 0, 0);
-        r.read(2, 1, 0);
-        r.read(1, 1, 0);
-        r.before(1, 2, 0);
-        r.before(2, 1, 0);
+        r.opsLeft(0);
+        r.read(1, 0, NO_OPS);
+        r.read(2, 0, NO_OPS);
     }
 
-    private static void cycleAborts() {
-        Run r = new Run("cycle of two", 3, 2);
+    private static void logFullBeforeCycle() {
+        Run r = Scenes.everyStatusAndLogFull();
+        r.read(1, 0, NO_OPS);
+        r.status(1, ACTIVE);
+    }
+
+    private static void cycleOfTwo() {
+        Run r = new Run(3, 2);
         r.beginAll(1, 2);
         r.read(1, 0, 0);
         r.write(2, 0, 3, DONE);
         r.write(2, 1, 4, DONE);
         r.read(1, 1, CYCLE);
-        r.status(1, ABORTED);
-        r.status(2, ACTIVE);
-        r.opsLeft(125);
-        r.read(1, 1, NOT_ACTIVE);
-        r.value(0, 3);
-        r.value(1, 4);
-        r.commit(2, 1);
-        r.settledAt(0, 2);
+        r.statuses(ABORTED, ACTIVE);
+        r = new Run(3, 2);
+        r.beginAll(1, 2);
+        r.read(1, 0, 0);
+        r.add(2, 0, 3, 3);
+        r.add(2, 1, 4, 4);
+        r.read(1, 1, CYCLE);
+        r.statuses(ABORTED, ACTIVE);
     }
 
-    private static void cycleThroughSeveral() {
-        Run r = new Run("cycle of four", 4, 4);
+    private static void cycleOfFour() {
+        Run r = new Run(4, 4);
         r.beginAll(1, 4);
-        r.write(4, 0, 1, DONE);
-        r.read(3, 0, 1);
+        r.read(4, 0, 0);
+        r.write(3, 0, 1, DONE);
         r.read(3, 1, 0);
         r.write(1, 1, 2, DONE);
         r.read(1, 2, 0);
@@ -152,40 +123,184 @@ final class Promise03ReadTest implements Answers {
         r.write(2, 3, 5, DONE);
         r.before(4, 2, 1);
         r.read(4, 3, CYCLE);
-        r.status(4, ABORTED);
-        r.status(3, ABORTED);
-        r.status(1, ACTIVE);
-        r.status(2, ACTIVE);
-        r.value(0, 0);
-        r.opsLeft(121);
+        r.statuses(ACTIVE, ACTIVE, ACTIVE, ABORTED);
     }
 
-    private static void cycleTakesReadersAndSettles() {
-        Run r = new Run("cycle with readers", 6, 4);
+    private static void noCycle() {
+        Run r = new Run(3, 3);
+        r.beginAll(1, 2);
+        r.read(1, 0, 0);
+        r.write(2, 0, 3, DONE);
+        r.read(2, 1, 0);
+        // 1 comes before 2, but a read after a read puts nobody after 2.
+        r.read(1, 1, 0);
+        r.read(1, 2, 0);
+        // A second edge the same way is no cycle either.
+        r.write(1, 2, 5, DONE);
+        r.read(2, 2, 5);
+        r.statuses(ACTIVE, ACTIVE);
+        // It has read from 1 and comes after it: reading that again closes nothing.
+        r.read(2, 2, 5);
+        r.before(1, 2, 1);
+        r.before(2, 1, 0);
+    }
+
+    private static void cycleIsNotEntered() {
+        Run r = new Run(4, 2);
+        r.beginAll(1, 3);
+        r.read(1, 0, 0);
+        r.write(2, 0, 3, DONE);
+        r.write(2, 1, 4, DONE);
+        r.opsLeft(MAX_OPS - 3);
+        r.read(1, 1, CYCLE);
+        r.opsLeft(MAX_OPS - 3);
+        // The last free place of the log is free still.
+        r.readUntilLeft(2, 0, 3, 2);
+        r.read(3, 1, 4);
+        r.write(2, 1, 5, CYCLE);
+        r.opsLeft(1);
+    }
+
+    private static void cycleAddsNoReading() {
+        Run r = new Run(3, 2);
+        r.beginAll(1, 2);
+        r.read(1, 0, 0);
+        r.write(2, 0, 3, DONE);
+        r.write(2, 1, 4, DONE);
+        r.read(1, 1, CYCLE);
+        r.status(2, ACTIVE);
+        r.abort(2, 1);
+    }
+
+    private static void cycleSettles() {
+        Run r = new Run(4, 2);
+        r.beginAll(1, 3);
+        r.read(1, 0, 0);
+        r.write(2, 0, 9, DONE);
+        r.commit(2, 1);
+        r.read(3, 0, 9);
+        r.commit(3, 1);
+        r.statuses(ACTIVE, COMMITTED, COMMITTED);
+        r.read(1, 0, CYCLE);
+        r.statuses(ABORTED, SETTLED, SETTLED);
+        r.settledOrder(2, 3);
+        r.settledValue(0, 9);
+    }
+
+    private static void cycleIsTheAnswer() {
+        Run r = Scenes.everyStatus();
+        r.read(1, 0, CYCLE);
+        r.read(1, 0, NOT_ACTIVE);
+    }
+
+    private static void cycleTakesReaders() {
+        Run r = new Run(6, 3);
         r.beginAll(1, 5);
-        r.write(5, 3, 77, DONE);
         r.write(1, 0, 6, DONE);
-        r.write(1, 3, 66, DONE);
         r.read(2, 0, 6);
         r.write(2, 1, 7, DONE);
         r.read(3, 1, 7);
         r.commit(3, 0);
         r.read(1, 2, 0);
         r.write(4, 2, 9, DONE);
-        r.commit(4, 1);
-        r.status(4, COMMITTED);
+        r.read(5, 2, 9);
         r.read(1, 2, CYCLE);
-        r.status(1, ABORTED);
-        r.status(2, ABORTED);
-        r.status(3, ABORTED);
-        r.status(4, SETTLED);
-        r.status(5, ACTIVE);
-        r.settledAt(0, 4);
-        r.settledValue(2, 9);
-        r.value(0, 0);
+        r.statuses(ABORTED, ABORTED, ABORTED, ACTIVE, ACTIVE);
+        r.abort(4, 2);
+    }
+
+    private static void cycleTakesValuesBack() {
+        Run r = new Run(6, 4);
+        r.beginAll(1, 4);
+        r.write(4, 0, 77, DONE);
+        r.write(1, 0, 66, DONE);
+        r.write(1, 1, 65, DONE);
+        r.add(2, 1, 1, 66);
+        r.read(1, 2, 0);
+        r.write(3, 2, 9, DONE);
+        r.read(1, 2, CYCLE);
+        r.statuses(ABORTED, ABORTED, ACTIVE, ACTIVE);
+        r.value(0, 77);
+        r.writer(0, 4);
         r.value(1, 0);
-        r.value(3, 77);
-        r.writer(3, 5);
-        r.opsLeft(120);
+        r.writer(1, 0);
+        r.value(2, 9);
+        r.writer(2, 3);
+    }
+
+    private static void entered() {
+        Run r = new Run(3, 2);
+        r.beginAll(1, 2);
+        r.read(1, 1, 0);
+        r.opsLeft(MAX_OPS - 1);
+        r.access(1, 1, 1);
+        r.access(1, 0, 0);
+        r.written(1, 1, NOT_WRITTEN);
+        r.write(2, 1, 5, DONE);
+        r.before(1, 2, 1);
+    }
+
+    private static void readingIsNoted() {
+        Run r = new Run(4, 2);
+        r.beginAll(1, 3);
+        r.write(1, 0, 5, DONE);
+        r.read(2, 0, 5);
+        r.waitsFor(2, 1, 1);
+        r.waitsFor(1, 2, 0);
+        r.waitsFor(3, 1, 0);
+        r.commit(2, 0);
+        r.status(2, WAITING);
+    }
+
+    private static void currentValue() {
+        Run r = new Run(6, 1);
+        r.beginAll(1, 4);
+        r.write(1, 0, 999, DONE);
+        r.read(2, 0, 999);
+        r.write(3, 0, 20, DONE);
+        r.read(4, 0, 20);
+        r.abort(3, 2);
+        r.begin(5);
+        r.read(5, 0, 999);
+        r.commit(1, 1);
+        r.begin(6);
+        r.read(6, 0, 999);
+    }
+
+    private static void ownAndOthersValues() {
+        Run r = new Run(3, 1);
+        r.beginAll(1, 2);
+        r.write(1, 0, 11, DONE);
+        r.read(1, 0, 11);
+        r.add(1, 0, 4, 15);
+        r.read(1, 0, 15);
+        r.read(2, 0, 15);
+        r.write(2, 0, 20, DONE);
+        r.read(2, 0, 20);
+    }
+
+    private static void nothingStands() {
+        Run r = new Run(4, 2);
+        r.beginAll(1, 3);
+        r.read(1, 0, 0);
+        r.read(1, 0, 0);
+        r.write(2, 1, 8, DONE);
+        r.abort(2, 1);
+        r.read(3, 1, 0);
+        r.waitsFor(3, 1, 0);
+        r.commit(3, 1);
+    }
+
+    private static void nothingElseChanges() {
+        Run r = Scenes.everyStatus();
+        Picture earlier = r.picture();
+        r.read(6, 0, 33);
+        r.changedSince(earlier, "opsLeft()", "access(6, 0)", "before(1, 6)", "before(2, 6)", "before(3, 6)");
+        r.begin(7);
+        r.write(6, 2, 9, DONE);
+        earlier = r.picture();
+        r.read(7, 2, 9);
+        r.changedSince(earlier, "opsLeft()", "access(7, 2)", "before(6, 7)", "before(1, 7)", "before(2, 7)",
+                "before(3, 7)", "waitsFor(7, 6)");
     }
 }

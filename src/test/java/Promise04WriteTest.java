@@ -1,66 +1,229 @@
 final class Promise04WriteTest implements Answers {
     public static void main(String[] args) {
-        refusals();
-        noOps();
-        stores();
-        ordersAfterEarlierEntries();
-        cycleByLaterRead();
-        cycleByLaterWrite();
-        cycleTakesReadersAndSettles();
+        Check.part("Promise 4: write");
+        Check.sentence("write(t, x, v): transaction t writes value v to item x.", Promise04WriteTest::writesTheItem);
+        Check.sentence("Refusals in order:", Promise04WriteTest::refusalsInOrder);
+        Check.sentence("t < 1 or t > begun: NO_TXN.", Promise04WriteTest::noTransaction);
+        Check.sentence("t is not ACTIVE: NOT_ACTIVE.", Promise04WriteTest::notActive);
+        Check.sentence("x < 0 or x >= items: NO_ITEM.", Promise04WriteTest::noItem);
+        Check.sentence("v < 0 or v > 999: BAD_VALUE.", Promise04WriteTest::badValue);
+        Check.sentence("v < 0 or v > 999: BAD_VALUE.", Promise04WriteTest::badValueBeforeCycle);
+        Check.sentence("The log has MAX_OPS entries: NO_OPS.", Promise04WriteTest::logFull);
+        Check.sentence("The log has MAX_OPS entries: NO_OPS.", Promise04WriteTest::logFullBeforeCycle);
+        Check.sentence("if the graph would have a cycle once this write were entered", Promise04WriteTest::cycleByLaterRead);
+        Check.sentence("if the graph would have a cycle once this write were entered", Promise04WriteTest::cycleByLaterWrite);
+        Check.sentence("if the graph would have a cycle once this write were entered", Promise04WriteTest::cycleOfThree);
+        Check.sentence("if the graph would have a cycle once this write were entered", Promise04WriteTest::onlyThoseThatCloseOne);
+        Check.sentence("nothing is entered", Promise04WriteTest::cycleIsNotEntered);
+        Check.sentence("t is aborted (aborting, with its settling)", Promise04WriteTest::cycleTakesReadersAndSettles);
+        Check.sentence("and the answer is CYCLE", Promise04WriteTest::cycleIsTheAnswer);
+        Check.sentence("Otherwise the write is entered with stored value v, and the answer is DONE.", Promise04WriteTest::entered);
+        Check.sentence("The current value of x is then v and its last writer is t.", Promise04WriteTest::currentValueAndLastWriter);
+        Check.sentence("No reading-from is added", Promise04WriteTest::noReadingFrom);
+        Check.sentence("no status changes, and no settling is done", Promise04WriteTest::nothingElseChanges);
         Check.finish();
     }
 
-    private static void refusals() {
-        Run r = new Run("refusals", 4, 2);
-        r.write(1, 0, 0, NO_TXN);
-        r.beginAll(1, 4);
-        for (int t : new int[] {LOW, -1, 0, 5, HIGH}) {
+    private static void writesTheItem() {
+        Run r = new Run(2, 8);
+        r.begin(1);
+        for (int x = 0; x < 8; x++) {
+            r.write(1, x, 100 * x + 7, DONE);
+        }
+        for (int x = 0; x < 8; x++) {
+            r.value(x, 100 * x + 7);
+        }
+    }
+
+    private static void refusalsInOrder() {
+        Run r = Scenes.everyStatusAndLogFull();
+        r.write(7, 3, 1000, NO_TXN);
+        r.write(7, 3, 1, NO_TXN);
+        r.write(7, 0, -1, NO_TXN);
+        r.write(7, 0, 1, NO_TXN);
+        r.write(2, 3, 1000, NOT_ACTIVE);
+        r.write(2, 3, 1, NOT_ACTIVE);
+        r.write(2, 0, -1, NOT_ACTIVE);
+        r.write(2, 0, 1, NOT_ACTIVE);
+        r.write(6, 3, 1000, NO_ITEM);
+        r.write(6, 3, 1, NO_ITEM);
+        r.write(6, 0, -1, BAD_VALUE);
+        r.write(6, 0, 1, NO_OPS);
+        r = Scenes.everyStatus();
+        r.write(7, 3, 1000, NO_TXN);
+        r.write(5, 3, 1000, NOT_ACTIVE);
+        r.write(6, 3, 1000, NO_ITEM);
+    }
+
+    private static void noTransaction() {
+        new Run(2, 1).write(1, 0, 1, NO_TXN);
+        Run r = Scenes.everyStatus();
+        for (int t : Scenes.NOT_BEGUN) {
             r.write(t, 0, 1, NO_TXN);
-            r.write(t, 2, -1, NO_TXN);
         }
-        r.write(1, 0, 1, DONE);
-        r.read(2, 0, 1);
-        r.commit(2, 0);
-        r.abort(3, 1);
-        r.commit(4, 1);
-        for (int t = 2; t <= 4; t++) {
+        r = Scenes.allBegun();
+        r.write(MAX_BEGUN + 1, 0, 1, NO_TXN);
+        r.write(MAX_BEGUN, 0, 1, DONE);
+    }
+
+    private static void notActive() {
+        Run r = Scenes.everyStatus();
+        for (int t = 2; t <= 5; t++) {
             r.write(t, 0, 1, NOT_ACTIVE);
-            r.write(t, 2, -1, NOT_ACTIVE);
         }
-        for (int x : new int[] {LOW, -1, 2, HIGH}) {
-            r.write(1, x, 1, NO_ITEM);
-            r.write(1, x, 1000, NO_ITEM);
+    }
+
+    private static void noItem() {
+        Run r = Scenes.everyStatus();
+        for (int x : Scenes.BAD_ITEMS) {
+            r.write(6, x, 1, NO_ITEM);
         }
-        for (int v : new int[] {LOW, -1, 1000, HIGH}) {
-            r.write(1, 0, v, BAD_VALUE);
+        r.write(6, 0, 1, DONE);
+        r.write(6, 2, 1, DONE);
+    }
+
+    private static void badValue() {
+        Run r = Scenes.everyStatus();
+        for (int v : Scenes.BAD_VALUES) {
+            r.write(6, 2, v, BAD_VALUE);
         }
-        r.value(0, 1);
-        r.opsLeft(126);
+        for (int v : new int[] {0, 1, 998, 999}) {
+            r.write(6, 2, v, DONE);
+            r.value(2, v);
+        }
+    }
+
+    private static void badValueBeforeCycle() {
+        Run r = Scenes.everyStatus();
+        r.write(1, 0, 1000, BAD_VALUE);
+        r.write(1, 0, -1, BAD_VALUE);
         r.status(1, ACTIVE);
     }
 
-    private static void noOps() {
-        Run r = new Run("log full", 3, 2);
-        r.beginAll(1, 3);
-        r.read(1, 0, 0);
-        r.write(2, 0, 5, DONE);
-        r.commit(3, 1);
-        r.readUntilLeft(2, 0, 5, 1);
+    private static void logFull() {
+        Run r = new Run(2, 2);
+        r.beginAll(1, 2);
+        r.readUntilLeft(1, 0, 0, 1);
         r.write(2, 1, 6, DONE);
+        r.opsLeft(0);
         r.write(2, 1, 7, NO_OPS);
-        r.write(2, 1, 1000, BAD_VALUE);
-        r.write(2, 2, 1000, NO_ITEM);
-        r.write(3, 0, 1, NOT_ACTIVE);
-        // This write would close a cycle, but a full log is a refusal and goes first.
+        r.write(1, 0, 7, NO_OPS);
+        r.value(1, 6);
+    }
+
+    private static void logFullBeforeCycle() {
+        Run r = Scenes.everyStatusAndLogFull();
         r.write(1, 0, 1, NO_OPS);
         r.status(1, ACTIVE);
-        r.value(1, 6);
-        r.value(0, 5);
-        r.opsLeft(0);
     }
 
-    private static void stores() {
-        Run r = new Run("stores", 3, 2);
+    private static void cycleByLaterRead() {
+        Run r = new Run(2, 1);
+        r.beginAll(1, 2);
+        r.write(1, 0, 5, DONE);
+        r.read(2, 0, 5);
+        r.write(1, 0, 6, CYCLE);
+        r.statuses(ABORTED, ABORTED);
+        r.value(0, 0);
+        r.writer(0, 0);
+    }
+
+    private static void cycleByLaterWrite() {
+        Run r = new Run(2, 1);
+        r.beginAll(1, 2);
+        r.write(1, 0, 5, DONE);
+        r.write(2, 0, 6, DONE);
+        r.write(1, 0, 7, CYCLE);
+        r.statuses(ABORTED, ACTIVE);
+        r.value(0, 6);
+        r.writer(0, 2);
+        r.write(2, 0, 8, DONE);
+    }
+
+    private static void cycleOfThree() {
+        Run r = new Run(3, 3);
+        r.beginAll(1, 3);
+        r.read(3, 0, 0);
+        r.write(1, 0, 1, DONE);
+        r.read(1, 1, 0);
+        r.write(2, 1, 2, DONE);
+        r.read(2, 2, 0);
+        r.write(3, 2, 3, CYCLE);
+        r.statuses(ACTIVE, ACTIVE, ABORTED);
+        r.value(2, 0);
+    }
+
+    private static void onlyThoseThatCloseOne() {
+        Run r = new Run(4, 2);
+        r.beginAll(1, 4);
+        r.read(1, 0, 0);
+        r.read(2, 0, 0);
+        r.write(3, 0, 1, DONE);
+        r.write(3, 0, 2, DONE);
+        r.before(1, 3, 1);
+        r.before(2, 3, 1);
+        r.before(1, 2, 0);
+        r.write(4, 1, 1, DONE);
+        r.write(4, 0, 3, DONE);
+        r.write(1, 1, 4, CYCLE);
+        r.write(2, 1, 4, CYCLE);
+        r.statuses(ABORTED, ABORTED, ACTIVE, ACTIVE);
+    }
+
+    private static void cycleIsNotEntered() {
+        Run r = Scenes.everyStatus();
+        r.readUntilLeft(6, 1, 44, 1);
+        r.write(1, 0, 7, CYCLE);
+        r.opsLeft(1);
+        r.value(0, 33);
+        r.statuses(ABORTED, ABORTED, SETTLED, SETTLED, ABORTED, ACTIVE);
+        r.settledValue(0, 33);
+    }
+
+    private static void cycleTakesReadersAndSettles() {
+        Run r = new Run(5, 2);
+        r.beginAll(1, 4);
+        r.write(1, 0, 1, DONE);
+        r.add(2, 0, 1, 2);
+        r.add(3, 0, 1, 3);
+        r.commit(3, 0);
+        r.read(1, 1, 0);
+        r.write(4, 1, 9, DONE);
+        r.commit(4, 1);
+        r.statuses(ACTIVE, ACTIVE, WAITING, COMMITTED);
+        r.write(1, 1, 8, CYCLE);
+        r.statuses(ABORTED, ABORTED, ABORTED, SETTLED);
+        r.value(0, 0);
+        r.value(1, 9);
+        r.writer(1, 0);
+        r.settledOrder(4);
+    }
+
+    private static void cycleIsTheAnswer() {
+        Run r = Scenes.everyStatus();
+        r.write(1, 0, 0, CYCLE);
+        r.write(1, 0, 0, NOT_ACTIVE);
+    }
+
+    private static void entered() {
+        Run r = new Run(3, 2);
+        r.beginAll(1, 2);
+        r.write(1, 0, 123, DONE);
+        r.opsLeft(MAX_OPS - 1);
+        r.access(1, 0, 2);
+        r.written(1, 0, 123);
+        r.access(1, 1, 0);
+        r.write(2, 0, 321, DONE);
+        r.before(1, 2, 1);
+        r.written(1, 0, 123);
+        r.written(2, 0, 321);
+        // The same value again is another write.
+        r.write(2, 0, 321, DONE);
+        r.opsLeft(MAX_OPS - 3);
+    }
+
+    private static void currentValueAndLastWriter() {
+        Run r = new Run(3, 2);
         r.beginAll(1, 2);
         r.write(1, 0, 999, DONE);
         r.value(0, 999);
@@ -73,82 +236,29 @@ final class Promise04WriteTest implements Answers {
         r.write(2, 0, 12, DONE);
         r.value(0, 12);
         r.writer(0, 2);
-        r.written(1, 0, 0);
+    }
+
+    private static void noReadingFrom() {
+        Run r = new Run(3, 1);
+        r.beginAll(1, 2);
+        r.write(1, 0, 5, DONE);
+        r.write(2, 0, 6, DONE);
         r.waitsFor(2, 1, 0);
-        r.before(1, 2, 1);
-        r.status(1, ACTIVE);
-        r.status(2, ACTIVE);
-        r.opsLeft(125);
-        // A write reads from nobody, so its transaction need not wait, nor abort with the other.
+        // So it need not wait, nor abort with the other.
         r.commit(2, 1);
         r.status(2, COMMITTED);
         r.abort(1, 1);
         r.status(2, SETTLED);
-        r.value(0, 12);
-    }
-
-    private static void ordersAfterEarlierEntries() {
-        Run r = new Run("orders", 4, 2);
-        r.beginAll(1, 4);
-        r.read(1, 0, 0);
-        r.read(2, 0, 0);
-        r.write(3, 0, 1, DONE);
-        r.before(1, 3, 1);
-        r.before(2, 3, 1);
-        r.before(1, 2, 0);
-        r.write(4, 1, 1, DONE);
-        r.before(3, 4, 0);
-        r.write(4, 0, 2, DONE);
-        r.before(3, 4, 1);
-        r.before(1, 4, 1);
-    }
-
-    private static void cycleByLaterRead() {
-        Run r = new Run("write after a later read", 2, 1);
-        r.beginAll(1, 2);
-        r.write(1, 0, 5, DONE);
-        r.read(2, 0, 5);
-        r.write(1, 0, 6, CYCLE);
-        r.status(1, ABORTED);
-        r.status(2, ABORTED);
-        r.value(0, 0);
-        r.writer(0, 0);
-        r.opsLeft(126);
-    }
-
-    private static void cycleByLaterWrite() {
-        Run r = new Run("write after a later write", 2, 1);
-        r.beginAll(1, 2);
-        r.write(1, 0, 5, DONE);
-        r.write(2, 0, 6, DONE);
-        r.write(1, 0, 7, CYCLE);
-        r.status(1, ABORTED);
-        r.status(2, ACTIVE);
         r.value(0, 6);
-        r.writer(0, 2);
-        r.opsLeft(126);
-        r.write(2, 0, 8, DONE);
     }
 
-    private static void cycleTakesReadersAndSettles() {
-        Run r = new Run("cycle with readers", 5, 3);
-        r.beginAll(1, 4);
-        r.write(1, 0, 1, DONE);
-        r.add(2, 0, 1, 2);
-        r.add(3, 0, 1, 3);
-        r.read(1, 1, 0);
-        r.write(4, 1, 9, DONE);
-        r.commit(4, 1);
-        r.status(4, COMMITTED);
-        r.write(1, 1, 8, CYCLE);
-        r.status(1, ABORTED);
-        r.status(2, ABORTED);
-        r.status(3, ABORTED);
-        r.status(4, SETTLED);
-        r.value(0, 0);
-        r.value(1, 9);
-        r.writer(1, 0);
-        r.settledAt(0, 4);
-        r.opsLeft(123);
+    private static void nothingElseChanges() {
+        Run r = Scenes.everyStatus();
+        Picture earlier = r.picture();
+        r.write(6, 0, 9, DONE);
+        r.changedSince(earlier, "opsLeft()", "access(6, 0)", "written(6, 0)", "value(0)", "writer(0)",
+                "before(1, 6)", "before(2, 6)", "before(3, 6)");
+        r.statuses(ACTIVE, WAITING, COMMITTED, SETTLED, ABORTED, ACTIVE);
+        r.settledOrder(4);
     }
 }

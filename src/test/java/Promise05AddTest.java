@@ -1,112 +1,50 @@
 final class Promise05AddTest implements Answers {
     public static void main(String[] args) {
-        refusals();
-        noOps();
-        storesTheSum();
-        readsFrom();
-        conflictsWithReadsAndWrites();
-        zeroIsAnAdd();
-        cycleAborts();
+        Check.part("Promise 5: add");
+        Check.sentence("as one operation that both reads and writes and makes one log entry", Promise05AddTest::oneEntry);
+        Check.sentence("as one operation that both reads and writes", Promise05AddTest::conflictsWithReadsAndWrites);
+        Check.sentence("Refusals in order:", Promise05AddTest::refusalsInOrder);
+        Check.sentence("t < 1 or t > begun: NO_TXN.", Promise05AddTest::noTransaction);
+        Check.sentence("t is not ACTIVE: NOT_ACTIVE.", Promise05AddTest::notActive);
+        Check.sentence("x < 0 or x >= items: NO_ITEM.", Promise05AddTest::noItem);
+        Check.sentence("d < 0 or d > 999: BAD_VALUE.", Promise05AddTest::badValue);
+        Check.sentence("d < 0 or d > 999: BAD_VALUE.", Promise05AddTest::badValueBeforeCycle);
+        Check.sentence("The log has MAX_OPS entries: NO_OPS.", Promise05AddTest::logFull);
+        Check.sentence("The log has MAX_OPS entries: NO_OPS.", Promise05AddTest::logFullBeforeCycle);
+        Check.sentence("if the graph would have a cycle once this add were entered", Promise05AddTest::cycleByLaterRead);
+        Check.sentence("if the graph would have a cycle once this add were entered", Promise05AddTest::cycleByLaterWrite);
+        Check.sentence("if the graph would have a cycle once this add were entered", Promise05AddTest::noCycle);
+        Check.sentence("nothing is entered", Promise05AddTest::cycleIsNotEntered);
+        Check.sentence("no reading-from is added", Promise05AddTest::cycleAddsNoReading);
+        Check.sentence("t is aborted (aborting, with its settling)", Promise05AddTest::cycleTakesReadersAndSettles);
+        Check.sentence("and the answer is CYCLE", Promise05AddTest::cycleIsTheAnswer);
+        Check.sentence("reading from is noted by the last writer of x before the add", Promise05AddTest::readsFromTheWriterBefore);
+        Check.sentence("reading from is noted by the last writer of x before the add", Promise05AddTest::readsFromNobodyNew);
+        Check.sentence("stored value (c + d) % 1000", Promise05AddTest::sumsBelowTheWrap);
+        Check.sentence("stored value (c + d) % 1000", Promise05AddTest::sumsThatWrap);
+        Check.sentence("c being the current value of x before the add", Promise05AddTest::ownValueBefore);
+        Check.sentence("c being the current value of x before the add", Promise05AddTest::othersValueBefore);
+        Check.sentence("c being the current value of x before the add", Promise05AddTest::nothingStandsBefore);
+        Check.sentence("The answer is the stored value.", Promise05AddTest::answerIsTheStoredValue);
+        Check.sentence("The current value of x is then that value and its last writer is t.", Promise05AddTest::currentValueAndLastWriter);
+        Check.sentence("An add with d = 0 is an add like any other.", Promise05AddTest::zeroIsEntered);
+        Check.sentence("An add with d = 0 is an add like any other.", Promise05AddTest::zeroConflicts);
+        Check.sentence("No status changes, and no settling is done.", Promise05AddTest::nothingElseChanges);
         Check.finish();
     }
 
-    private static void refusals() {
-        Run r = new Run("refusals", 4, 2);
-        r.add(1, 0, 0, NO_TXN);
-        r.beginAll(1, 4);
-        for (int t : new int[] {LOW, -1, 0, 5, HIGH}) {
-            r.add(t, 0, 1, NO_TXN);
-            r.add(t, 2, -1, NO_TXN);
-        }
-        r.add(1, 0, 1, 1);
-        r.read(2, 0, 1);
-        r.commit(2, 0);
-        r.abort(3, 1);
-        r.commit(4, 1);
-        for (int t = 2; t <= 4; t++) {
-            r.add(t, 0, 1, NOT_ACTIVE);
-            r.add(t, 2, -1, NOT_ACTIVE);
-        }
-        for (int x : new int[] {LOW, -1, 2, HIGH}) {
-            r.add(1, x, 1, NO_ITEM);
-            r.add(1, x, 1000, NO_ITEM);
-        }
-        for (int d : new int[] {LOW, -1, 1000, HIGH}) {
-            r.add(1, 0, d, BAD_VALUE);
-        }
-        r.value(0, 1);
-        r.opsLeft(126);
-        r.status(1, ACTIVE);
-    }
-
-    private static void noOps() {
-        Run r = new Run("log full", 3, 2);
-        r.beginAll(1, 3);
-        r.read(1, 0, 0);
-        r.add(2, 0, 5, 5);
-        r.commit(3, 1);
-        r.readUntilLeft(2, 0, 5, 1);
-        r.add(2, 1, 6, 6);
-        r.add(2, 1, 7, NO_OPS);
-        r.add(2, 1, 1000, BAD_VALUE);
-        r.add(2, 2, 1000, NO_ITEM);
-        r.add(3, 0, 1, NOT_ACTIVE);
-        // This add would close a cycle, but a full log is a refusal and goes first.
-        r.add(1, 0, 1, NO_OPS);
-        r.status(1, ACTIVE);
-        r.waitsFor(1, 2, 0);
-        r.value(1, 6);
-        r.opsLeft(0);
-    }
-
-    private static void storesTheSum() {
-        Run r = new Run("sums", 3, 2);
-        r.beginAll(1, 2);
-        r.add(1, 0, 999, 999);
-        r.value(0, 999);
-        r.writer(0, 1);
-        r.add(1, 0, 1, 0);
-        r.value(0, 0);
-        r.writer(0, 1);
-        r.add(1, 0, 998, 998);
-        r.add(2, 0, 999, 997);
-        r.writer(0, 2);
-        r.written(1, 0, 998);
-        r.written(2, 0, 997);
-        r.access(2, 0, 3);
-        r.value(1, 0);
-        r.opsLeft(124);
-        r.status(1, ACTIVE);
-        r.status(2, ACTIVE);
-    }
-
-    private static void readsFrom() {
-        Run r = new Run("reading from", 5, 2);
-        r.beginAll(1, 4);
-        r.write(1, 0, 10, DONE);
-        r.add(2, 0, 5, 15);
-        r.waitsFor(2, 1, 1);
-        // Its own add is the last write now: a second one reads from nobody new.
-        r.add(2, 0, 5, 20);
-        r.waitsFor(2, 2, 0);
-        r.add(3, 0, 1, 21);
-        r.waitsFor(3, 2, 1);
-        r.waitsFor(3, 1, 0);
-        r.commit(3, 0);
-        r.add(4, 0, 1, 22);
-        r.waitsFor(4, 3, 1);
-        r.abort(2, 3);
-        r.value(0, 10);
-        r.writer(0, 1);
-        r.begin(5);
-        r.commit(1, 1);
-        r.add(5, 0, 7, 17);
-        r.commit(5, 1);
-        r.settledValue(0, 17);
+    private static void oneEntry() {
+        Run r = new Run(3, 2);
+        r.begin(1);
+        r.add(1, 1, 5, 5);
+        r.opsLeft(MAX_OPS - 1);
+        r.access(1, 1, 3);
+        r.access(1, 0, 0);
+        r.written(1, 1, 5);
     }
 
     private static void conflictsWithReadsAndWrites() {
-        Run r = new Run("conflicts", 5, 2);
+        Run r = new Run(5, 1);
         r.beginAll(1, 5);
         r.read(1, 0, 0);
         r.add(2, 0, 1, 1);
@@ -121,25 +59,149 @@ final class Promise05AddTest implements Answers {
         r.before(4, 5, 1);
     }
 
-    private static void zeroIsAnAdd() {
-        Run r = new Run("add of 0", 3, 1);
-        r.beginAll(1, 3);
-        r.write(1, 0, 5, DONE);
-        r.add(2, 0, 0, 5);
-        r.writer(0, 2);
-        r.written(2, 0, 5);
-        r.access(2, 0, 3);
-        r.waitsFor(2, 1, 1);
-        r.opsLeft(126);
-        r.read(3, 0, 5);
-        r.waitsFor(3, 2, 1);
-        r.waitsFor(3, 1, 0);
-        r.add(1, 0, 0, CYCLE);
-        r.status(3, ABORTED);
+    private static void refusalsInOrder() {
+        Run r = Scenes.everyStatusAndLogFull();
+        r.add(7, 3, 1000, NO_TXN);
+        r.add(7, 3, 1, NO_TXN);
+        r.add(7, 0, -1, NO_TXN);
+        r.add(7, 0, 1, NO_TXN);
+        r.add(2, 3, 1000, NOT_ACTIVE);
+        r.add(2, 3, 1, NOT_ACTIVE);
+        r.add(2, 0, -1, NOT_ACTIVE);
+        r.add(2, 0, 1, NOT_ACTIVE);
+        r.add(6, 3, 1000, NO_ITEM);
+        r.add(6, 3, 1, NO_ITEM);
+        r.add(6, 0, -1, BAD_VALUE);
+        r.add(6, 0, 1, NO_OPS);
+        r = Scenes.everyStatus();
+        r.add(7, 3, 1000, NO_TXN);
+        r.add(5, 3, 1000, NOT_ACTIVE);
+        r.add(6, 3, 1000, NO_ITEM);
     }
 
-    private static void cycleAborts() {
-        Run r = new Run("cycle", 5, 3);
+    private static void noTransaction() {
+        new Run(2, 1).add(1, 0, 1, NO_TXN);
+        Run r = Scenes.everyStatus();
+        for (int t : Scenes.NOT_BEGUN) {
+            r.add(t, 0, 1, NO_TXN);
+        }
+        r = Scenes.allBegun();
+        r.add(MAX_BEGUN + 1, 0, 1, NO_TXN);
+        r.add(MAX_BEGUN, 0, 1, 1);
+    }
+
+    private static void notActive() {
+        Run r = Scenes.everyStatus();
+        for (int t = 2; t <= 5; t++) {
+            r.add(t, 0, 1, NOT_ACTIVE);
+        }
+    }
+
+    private static void noItem() {
+        Run r = Scenes.everyStatus();
+        for (int x : Scenes.BAD_ITEMS) {
+            r.add(6, x, 1, NO_ITEM);
+        }
+        r.add(6, 0, 1, 34);
+        r.add(6, 2, 1, 1);
+    }
+
+    private static void badValue() {
+        Run r = Scenes.everyStatus();
+        for (int d : Scenes.BAD_VALUES) {
+            r.add(6, 2, d, BAD_VALUE);
+        }
+        r.add(6, 2, 0, 0);
+        r.add(6, 2, 1, 1);
+        r.add(6, 2, 998, 999);
+        r.add(6, 2, 999, 998);
+    }
+
+    private static void badValueBeforeCycle() {
+        Run r = Scenes.everyStatus();
+        r.add(1, 0, 1000, BAD_VALUE);
+        r.add(1, 0, -1, BAD_VALUE);
+        r.status(1, ACTIVE);
+    }
+
+    private static void logFull() {
+        Run r = new Run(2, 2);
+        r.beginAll(1, 2);
+        r.readUntilLeft(1, 0, 0, 1);
+        r.add(2, 1, 6, 6);
+        r.opsLeft(0);
+        r.add(2, 1, 7, NO_OPS);
+        r.add(1, 0, 0, NO_OPS);
+        r.value(1, 6);
+    }
+
+    private static void logFullBeforeCycle() {
+        Run r = Scenes.everyStatusAndLogFull();
+        r.add(1, 0, 1, NO_OPS);
+        r.status(1, ACTIVE);
+    }
+
+    private static void cycleByLaterRead() {
+        Run r = new Run(2, 1);
+        r.beginAll(1, 2);
+        r.write(1, 0, 5, DONE);
+        r.read(2, 0, 5);
+        r.add(1, 0, 1, CYCLE);
+        r.statuses(ABORTED, ABORTED);
+        r.value(0, 0);
+        r.writer(0, 0);
+    }
+
+    private static void cycleByLaterWrite() {
+        Run r = new Run(3, 2);
+        r.beginAll(1, 3);
+        r.read(1, 0, 0);
+        r.write(2, 0, 6, DONE);
+        r.read(2, 1, 0);
+        r.write(3, 1, 7, DONE);
+        r.before(1, 3, 1);
+        r.add(1, 1, 7, CYCLE);
+        r.statuses(ABORTED, ACTIVE, ACTIVE);
+        r.value(1, 7);
+    }
+
+    private static void noCycle() {
+        Run r = new Run(3, 2);
+        r.beginAll(1, 2);
+        r.add(1, 0, 5, 5);
+        r.add(2, 0, 5, 10);
+        r.add(2, 0, 5, 15);
+        r.add(1, 1, 5, 5);
+        r.add(2, 1, 5, 10);
+        r.statuses(ACTIVE, ACTIVE);
+        r.before(1, 2, 1);
+        r.before(2, 1, 0);
+    }
+
+    private static void cycleIsNotEntered() {
+        Run r = Scenes.everyStatus();
+        r.readUntilLeft(6, 1, 44, 1);
+        r.add(1, 0, 7, CYCLE);
+        r.opsLeft(1);
+        r.value(0, 33);
+        r.statuses(ABORTED, ABORTED, SETTLED, SETTLED, ABORTED, ACTIVE);
+        r.settledValue(0, 33);
+    }
+
+    private static void cycleAddsNoReading() {
+        Run r = new Run(4, 2);
+        r.beginAll(1, 3);
+        r.read(1, 0, 0);
+        r.write(2, 0, 3, DONE);
+        r.write(2, 1, 4, DONE);
+        r.add(1, 1, 1, CYCLE);
+        // Had 1 read from 2, or been read from, more than 2 would be counted or aborted here.
+        r.statuses(ABORTED, ACTIVE, ACTIVE);
+        r.abort(2, 1);
+    }
+
+    private static void cycleTakesReadersAndSettles() {
+        Run r = new Run(5, 3);
         r.beginAll(1, 4);
         r.write(1, 0, 1, DONE);
         r.read(2, 0, 1);
@@ -148,16 +210,168 @@ final class Promise05AddTest implements Answers {
         r.write(3, 1, 9, DONE);
         r.commit(3, 1);
         r.write(4, 2, 5, DONE);
-        // The add would read from the unfinished 4 if it were done; 4 must not be touched.
+        r.statuses(ACTIVE, ACTIVE, COMMITTED, ACTIVE);
         r.add(1, 2, 1, CYCLE);
-        r.status(1, ABORTED);
-        r.status(2, ABORTED);
-        r.status(3, SETTLED);
-        r.status(4, ACTIVE);
+        r.statuses(ABORTED, ABORTED, SETTLED, ACTIVE);
         r.value(2, 5);
         r.writer(2, 4);
         r.value(0, 0);
-        r.settledAt(0, 3);
-        r.opsLeft(122);
+        r.settledOrder(3);
+    }
+
+    private static void cycleIsTheAnswer() {
+        Run r = Scenes.everyStatus();
+        r.add(1, 0, 0, CYCLE);
+        r.add(1, 0, 0, NOT_ACTIVE);
+    }
+
+    private static void readsFromTheWriterBefore() {
+        Run r = new Run(4, 1);
+        r.beginAll(1, 4);
+        r.write(1, 0, 10, DONE);
+        r.add(2, 0, 5, 15);
+        r.waitsFor(2, 1, 1);
+        r.add(3, 0, 1, 16);
+        r.waitsFor(3, 2, 1);
+        r.waitsFor(3, 1, 0);
+        r.commit(3, 0);
+        r.add(4, 0, 1, 17);
+        r.waitsFor(4, 3, 1);
+        r.abort(2, 3);
+        r.statuses(ACTIVE, ABORTED, ABORTED, ABORTED);
+        r.value(0, 10);
+    }
+
+    private static void readsFromNobodyNew() {
+        Run r = new Run(4, 2);
+        r.beginAll(1, 3);
+        r.add(1, 0, 5, 5);
+        r.add(1, 0, 5, 10);
+        r.waitsFor(1, 1, 0);
+        r.commit(1, 1);
+        r.add(2, 0, 5, 15);
+        r.add(2, 1, 5, 5);
+        r.commit(2, 1);
+        r.settledOrder(1, 2);
+    }
+
+    private static void sumsBelowTheWrap() {
+        int[][] cases = {{0, 0}, {0, 1}, {1, 0}, {0, 998}, {0, 999}, {1, 998}, {998, 1}, {999, 0}, {499, 500}, {500, 499}};
+        for (int[] c : cases) {
+            sum(c[0], c[1], c[0] + c[1]);
+        }
+    }
+
+    private static void sumsThatWrap() {
+        int[][] cases = {{999, 1}, {1, 999}, {500, 500}, {998, 2}, {999, 2}, {2, 999}, {999, 998}, {998, 999}, {999, 999}};
+        for (int[] c : cases) {
+            sum(c[0], c[1], c[0] + c[1] - 1000);
+        }
+    }
+
+    private static void sum(int c, int d, int stored) {
+        Run r = new Run(2, 1);
+        r.beginAll(1, 2);
+        r.write(1, 0, c, DONE);
+        r.add(2, 0, d, stored);
+        r.value(0, stored);
+        r.written(2, 0, stored);
+    }
+
+    private static void ownValueBefore() {
+        Run r = new Run(2, 1);
+        r.begin(1);
+        r.write(1, 0, 7, DONE);
+        r.add(1, 0, 3, 10);
+        r.add(1, 0, 3, 13);
+        r.read(1, 0, 13);
+    }
+
+    private static void othersValueBefore() {
+        Run r = new Run(5, 1);
+        r.beginAll(1, 4);
+        r.write(1, 0, 100, DONE);
+        r.commit(1, 1);
+        r.add(2, 0, 1, 101);
+        r.add(3, 0, 10, 111);
+        r.abort(3, 1);
+        r.add(4, 0, 3, 104);
+    }
+
+    private static void nothingStandsBefore() {
+        Run r = new Run(4, 2);
+        r.beginAll(1, 3);
+        r.add(1, 0, 5, 5);
+        r.abort(1, 1);
+        r.add(2, 0, 7, 7);
+        r.add(2, 1, 999, 999);
+        r.waitsFor(2, 3, 0);
+        r.commit(2, 1);
+    }
+
+    private static void answerIsTheStoredValue() {
+        Run r = new Run(2, 1);
+        r.begin(1);
+        r.add(1, 0, 600, 600);
+        r.written(1, 0, 600);
+        r.add(1, 0, 600, 200);
+        r.written(1, 0, 200);
+        r.commit(1, 1);
+        r.settledValue(0, 200);
+    }
+
+    private static void currentValueAndLastWriter() {
+        Run r = new Run(3, 2);
+        r.beginAll(1, 2);
+        r.add(1, 0, 998, 998);
+        r.value(0, 998);
+        r.writer(0, 1);
+        r.add(2, 0, 999, 997);
+        r.value(0, 997);
+        r.writer(0, 2);
+        r.written(1, 0, 998);
+        r.value(1, 0);
+        r.writer(1, 0);
+    }
+
+    private static void zeroIsEntered() {
+        Run r = new Run(4, 2);
+        r.beginAll(1, 3);
+        r.write(1, 0, 999, DONE);
+        r.add(2, 0, 0, 999);
+        r.opsLeft(MAX_OPS - 2);
+        r.writer(0, 2);
+        r.written(2, 0, 999);
+        r.access(2, 0, 3);
+        r.waitsFor(2, 1, 1);
+        r.add(3, 1, 0, 0);
+        r.opsLeft(MAX_OPS - 3);
+        r.writer(1, 3);
+        r.written(3, 1, 0);
+        r.access(3, 1, 3);
+    }
+
+    private static void zeroConflicts() {
+        Run r = new Run(3, 1);
+        r.beginAll(1, 3);
+        r.read(1, 0, 0);
+        r.add(2, 0, 0, 0);
+        r.before(1, 2, 1);
+        r.read(3, 0, 0);
+        r.waitsFor(3, 2, 1);
+        r.add(1, 0, 0, CYCLE);
+        r.statuses(ABORTED, ACTIVE, ACTIVE);
+        r.add(2, 0, 0, CYCLE);
+        r.statuses(ABORTED, ABORTED, ABORTED);
+    }
+
+    private static void nothingElseChanges() {
+        Run r = Scenes.everyStatus();
+        Picture earlier = r.picture();
+        r.add(6, 0, 9, 42);
+        r.changedSince(earlier, "opsLeft()", "access(6, 0)", "written(6, 0)", "value(0)", "writer(0)",
+                "before(1, 6)", "before(2, 6)", "before(3, 6)");
+        r.statuses(ACTIVE, WAITING, COMMITTED, SETTLED, ABORTED, ACTIVE);
+        r.settledOrder(4);
     }
 }

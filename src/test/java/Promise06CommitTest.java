@@ -1,91 +1,139 @@
 final class Promise06CommitTest implements Answers {
     public static void main(String[] args) {
-        refusals();
-        empty();
-        waits();
-        waitsForSeveral();
-        chainOfWaiters();
-        chainAgainstTheNumbers();
-        changesNoValues();
-        settlesInOrderOfNumbers();
-        waitingDoesNotSettle();
-        settlesAfterDirectPredecessors();
+        Check.part("Promise 6: commit");
+        Check.sentence("commit(t), refusals in order:", Promise06CommitTest::refusalsInOrder);
+        Check.sentence("t < 1 or t > begun: NO_TXN.", Promise06CommitTest::noTransaction);
+        Check.sentence("t is not ACTIVE (a WAITING one included): NOT_ACTIVE.", Promise06CommitTest::notActive);
+        Check.sentence("(a WAITING one included)", Promise06CommitTest::waitingIsNotActive);
+        Check.sentence("If t has read from some transaction that is now unfinished: t becomes WAITING", Promise06CommitTest::waitsForActive);
+        Check.sentence("If t has read from some transaction that is now unfinished: t becomes WAITING", Promise06CommitTest::waitsForWaiting);
+        Check.sentence("If t has read from some transaction that is now unfinished: t becomes WAITING", Promise06CommitTest::waitsForOneOfTwo);
+        Check.sentence("that is now unfinished", Promise06CommitTest::doesNotWaitForCommitted);
+        Check.sentence("the answer is 0, and nothing else changes (no settling)", Promise06CommitTest::waitingChangesNothingElse);
+        Check.sentence("Otherwise t becomes COMMITTED", Promise06CommitTest::becomesCommitted);
+        Check.sentence("as long as there is a WAITING transaction that has read from no transaction now unfinished", Promise06CommitTest::waitersInTurn);
+        Check.sentence("as long as there is a WAITING transaction that has read from no transaction now unfinished", Promise06CommitTest::waitersAgainstTheNumbers);
+        Check.sentence("as long as there is a WAITING transaction that has read from no transaction now unfinished", Promise06CommitTest::waitersForTwo);
+        Check.sentence("it becomes COMMITTED too", Promise06CommitTest::onlyWaitersComeAlong);
+        Check.sentence("then settling is done", Promise06CommitTest::thenSettling);
+        Check.sentence("The answer is the number of transactions that became COMMITTED in this call", Promise06CommitTest::countsThoseOfThisCall);
+        Check.sentence("(t included, so 1 or more)", Promise06CommitTest::countsItself);
+        Check.sentence("whether or not they were then SETTLED", Promise06CommitTest::countsSettledOrNot);
+        Check.sentence("A commit makes no log entry", Promise06CommitTest::noLogEntry);
+        Check.sentence("changes no current value and no last writer", Promise06CommitTest::noValueChanges);
+        Check.sentence("A transaction without log entries can be committed.", Promise06CommitTest::withoutEntries);
         Check.finish();
     }
 
-    private static void refusals() {
-        Run r = new Run("refusals", 5, 2);
-        r.commit(1, NO_TXN);
-        r.beginAll(1, 5);
-        for (int t : new int[] {LOW, -1, 0, 6, HIGH}) {
+    private static void refusalsInOrder() {
+        // No number is both not begun and not active, so the order shows at the border between the two.
+        Run r = Scenes.everyStatus();
+        r.abort(6, 1);
+        r.commit(6, NOT_ACTIVE);
+        r.commit(7, NO_TXN);
+        r.commit(1, 2);
+        r.commit(1, NOT_ACTIVE);
+        r.commit(0, NO_TXN);
+    }
+
+    private static void noTransaction() {
+        new Run(2, 1).commit(1, NO_TXN);
+        Run r = Scenes.everyStatus();
+        for (int t : Scenes.NOT_BEGUN) {
             r.commit(t, NO_TXN);
         }
-        r.read(5, 1, 0);
-        r.write(1, 0, 1, DONE);
-        r.read(2, 0, 1);
-        r.commit(2, 0);
+        r = Scenes.allBegun();
+        r.commit(MAX_BEGUN + 1, NO_TXN);
+        r.commit(MAX_BEGUN, 1);
+    }
+
+    private static void notActive() {
+        Run r = Scenes.everyStatus();
+        for (int t = 3; t <= 5; t++) {
+            r.commit(t, NOT_ACTIVE);
+        }
+    }
+
+    private static void waitingIsNotActive() {
+        Run r = Scenes.everyStatus();
         r.commit(2, NOT_ACTIVE);
         r.status(2, WAITING);
-        r.abort(3, 1);
-        r.commit(3, NOT_ACTIVE);
-        r.write(4, 1, 1, DONE);
-        r.commit(4, 1);
-        r.status(4, COMMITTED);
-        r.commit(4, NOT_ACTIVE);
-        r.commit(5, 1);
-        r.status(5, SETTLED);
-        r.status(4, SETTLED);
-        r.commit(4, NOT_ACTIVE);
-        r.commit(5, NOT_ACTIVE);
+        r.commit(1, 2);
+        r.status(2, SETTLED);
     }
 
-    private static void empty() {
-        Run r = new Run("no entries", 2, 1);
-        r.begin(1);
-        r.commit(1, 1);
-        r.status(1, SETTLED);
-        r.settledAt(0, 1);
-        r.opsLeft(128);
-    }
-
-    private static void waits() {
-        Run r = new Run("waits", 3, 2);
+    private static void waitsForActive() {
+        Run r = new Run(3, 1);
         r.beginAll(1, 3);
         r.write(1, 0, 1, DONE);
         r.read(2, 0, 1);
-        r.read(3, 0, 1);
+        r.add(3, 0, 1, 2);
         r.commit(2, 0);
-        r.status(1, ACTIVE);
-        r.status(2, WAITING);
-        r.status(3, ACTIVE);
-        r.waitsFor(2, 1, 1);
-        // The active reader stays active: only waiting ones are committed along.
-        r.commit(1, 2);
-        r.status(1, SETTLED);
-        r.status(2, SETTLED);
-        r.status(3, ACTIVE);
-        r.commit(3, 1);
+        r.commit(3, 0);
+        r.statuses(ACTIVE, WAITING, WAITING);
     }
 
-    private static void waitsForSeveral() {
-        Run r = new Run("waits for two", 3, 2);
+    private static void waitsForWaiting() {
+        Run r = new Run(3, 2);
+        r.beginAll(1, 3);
+        r.write(1, 0, 1, DONE);
+        r.read(2, 0, 1);
+        r.write(2, 1, 2, DONE);
+        r.read(3, 1, 2);
+        r.commit(2, 0);
+        r.commit(3, 0);
+        r.statuses(ACTIVE, WAITING, WAITING);
+    }
+
+    private static void waitsForOneOfTwo() {
+        Run r = new Run(4, 2);
         r.beginAll(1, 3);
         r.write(1, 0, 1, DONE);
         r.write(2, 1, 2, DONE);
         r.read(3, 0, 1);
         r.read(3, 1, 2);
+        r.commit(1, 1);
         r.commit(3, 0);
-        r.commit(2, 1);
-        r.status(3, WAITING);
-        r.commit(1, 2);
-        r.status(3, SETTLED);
-        r.settledAt(0, 2);
-        r.settledAt(1, 1);
-        r.settledAt(2, 3);
+        r.statuses(SETTLED, ACTIVE, WAITING);
     }
 
-    private static void chainOfWaiters() {
-        Run r = new Run("chain", 16, 8);
+    private static void doesNotWaitForCommitted() {
+        Run r = new Run(4, 1);
+        r.beginAll(1, 3);
+        r.read(1, 0, 0);
+        r.write(2, 0, 2, DONE);
+        r.read(3, 0, 2);
+        r.waitsFor(3, 2, 1);
+        // 3 did read from the unfinished 2, which is finished now.
+        r.commit(2, 1);
+        r.commit(3, 1);
+        r.statuses(ACTIVE, COMMITTED, COMMITTED);
+    }
+
+    private static void waitingChangesNothingElse() {
+        Run r = Scenes.everyStatus();
+        r.begin(7);
+        r.write(6, 2, 9, DONE);
+        r.read(7, 2, 9);
+        Picture earlier = r.picture();
+        r.commit(7, 0);
+        r.changedSince(earlier, "status(7)");
+        r.statuses(ACTIVE, WAITING, COMMITTED, SETTLED, ABORTED, ACTIVE, WAITING);
+        r.settledOrder(4);
+    }
+
+    private static void becomesCommitted() {
+        Run r = new Run(3, 1);
+        r.beginAll(1, 2);
+        r.read(1, 0, 0);
+        r.write(2, 0, 1, DONE);
+        r.commit(2, 1);
+        r.statuses(ACTIVE, COMMITTED);
+        r.read(2, 0, NOT_ACTIVE);
+    }
+
+    private static void waitersInTurn() {
+        Run r = new Run(16, 8);
         r.beginAll(1, 9);
         for (int t = 1; t <= 8; t++) {
             r.write(t, t - 1, t, DONE);
@@ -95,14 +143,11 @@ final class Promise06CommitTest implements Answers {
             r.commit(t, 0);
         }
         r.commit(1, 9);
-        for (int t = 1; t <= 9; t++) {
-            r.status(t, SETTLED);
-            r.settledAt(t - 1, t);
-        }
+        r.settledOrder(1, 2, 3, 4, 5, 6, 7, 8, 9);
     }
 
-    private static void chainAgainstTheNumbers() {
-        Run r = new Run("chain backwards", 16, 8);
+    private static void waitersAgainstTheNumbers() {
+        Run r = new Run(16, 8);
         r.beginAll(1, 9);
         for (int t = 9; t >= 2; t--) {
             r.write(t, t - 2, t, DONE);
@@ -112,87 +157,147 @@ final class Promise06CommitTest implements Answers {
             r.commit(t, 0);
         }
         r.commit(9, 9);
-        for (int t = 1; t <= 9; t++) {
-            r.status(t, SETTLED);
-            r.settledAt(t - 1, 10 - t);
-        }
+        r.settledOrder(9, 8, 7, 6, 5, 4, 3, 2, 1);
     }
 
-    private static void changesNoValues() {
-        Run r = new Run("values", 3, 2);
-        r.beginAll(1, 2);
-        r.read(2, 0, 0);
-        r.write(1, 0, 3, DONE);
-        r.write(2, 1, 4, DONE);
-        r.commit(1, 1);
-        r.status(1, COMMITTED);
-        r.value(0, 3);
-        r.writer(0, 1);
-        r.value(1, 4);
-        r.writer(1, 2);
-        r.opsLeft(125);
-        r.commit(2, 1);
-        r.value(0, 3);
-        r.value(1, 4);
-        r.opsLeft(125);
-    }
-
-    private static void settlesInOrderOfNumbers() {
-        Run r = new Run("smallest first", 6, 3);
-        r.beginAll(1, 5);
-        r.read(3, 0, 0);
-        r.write(5, 0, 1, DONE);
-        r.read(3, 1, 0);
+    private static void waitersForTwo() {
+        Run r = new Run(3, 2);
+        r.beginAll(1, 3);
+        r.write(1, 0, 1, DONE);
         r.write(2, 1, 2, DONE);
-        r.write(2, 2, 2, DONE);
-        r.write(1, 2, 3, DONE);
-        r.commit(5, 1);
-        r.commit(1, 1);
+        r.read(3, 0, 1);
+        r.read(3, 1, 2);
+        r.commit(3, 0);
         r.commit(2, 1);
-        r.settledAt(0, 0);
-        r.commit(3, 1);
-        // After 3 both 2 and 5 are free; 2 frees 1, which is smaller than 5.
-        r.settledAt(0, 3);
-        r.settledAt(1, 2);
-        r.settledAt(2, 1);
-        r.settledAt(3, 5);
-        r.settledAt(4, 0);
-        r.status(4, ACTIVE);
+        r.statuses(ACTIVE, SETTLED, WAITING);
+        r.commit(1, 2);
+        r.settledOrder(2, 1, 3);
     }
 
-    private static void waitingDoesNotSettle() {
-        Run r = new Run("becoming waiting", 4, 3);
+    private static void onlyWaitersComeAlong() {
+        Run r = new Run(6, 2);
+        r.beginAll(1, 6);
+        r.write(1, 0, 1, DONE);
+        r.read(2, 0, 1);
+        r.read(3, 0, 1);
+        r.commit(3, 0);
+        r.write(4, 1, 4, DONE);
+        r.read(5, 1, 4);
+        r.commit(5, 0);
+        // 2 has not asked to commit, 5 waits for another one, and 6 has nothing to do with it.
+        r.commit(1, 2);
+        r.statuses(SETTLED, ACTIVE, SETTLED, ACTIVE, WAITING, ACTIVE);
+    }
+
+    private static void thenSettling() {
+        Run r = new Run(6, 3);
+        r.beginAll(1, 4);
+        r.read(2, 0, 0);
+        r.write(4, 0, 4, DONE);
+        r.write(1, 0, 1, DONE);
+        r.commit(1, 1);
+        r.commit(4, 1);
+        r.statuses(COMMITTED, ACTIVE, ACTIVE, COMMITTED);
+        r.settledOrder();
+        r.commit(2, 1);
+        r.statuses(SETTLED, SETTLED, ACTIVE, SETTLED);
+        r.settledOrder(2, 4, 1);
+    }
+
+    private static void countsThoseOfThisCall() {
+        Run r = new Run(6, 2);
+        r.beginAll(1, 5);
+        r.read(5, 1, 0);
+        r.write(1, 1, 1, DONE);
+        r.write(2, 0, 2, DONE);
+        r.read(3, 0, 2);
+        r.read(4, 0, 2);
+        r.commit(1, 1);
+        r.commit(3, 0);
+        r.commit(4, 0);
+        r.status(1, COMMITTED);
+        // 1 was committed before and is not counted again.
+        r.commit(2, 3);
+        // Two become settled here, but one becomes committed.
+        r.commit(5, 1);
+        r.statuses(SETTLED, SETTLED, SETTLED, SETTLED, SETTLED);
+    }
+
+    private static void countsItself() {
+        Run r = new Run(3, 1);
+        r.beginAll(1, 2);
+        r.write(1, 0, 1, DONE);
+        r.commit(1, 1);
+        r.commit(2, 1);
+    }
+
+    private static void countsSettledOrNot() {
+        Run r = new Run(5, 2);
+        r.beginAll(1, 4);
+        r.read(1, 0, 0);
+        r.write(2, 0, 2, DONE);
+        r.read(3, 0, 2);
+        r.commit(3, 0);
+        r.commit(2, 2);
+        r.statuses(ACTIVE, COMMITTED, COMMITTED);
+        r.begin(5);
+        r.write(4, 1, 4, DONE);
+        r.read(5, 1, 4);
+        r.commit(5, 0);
+        r.commit(4, 2);
+        r.status(4, SETTLED);
+        r.status(5, SETTLED);
+    }
+
+    private static void noLogEntry() {
+        Run r = new Run(3, 1);
         r.beginAll(1, 3);
         r.write(1, 0, 1, DONE);
         r.read(2, 0, 1);
-        r.read(2, 1, 0);
-        r.write(3, 1, 5, DONE);
-        r.commit(3, 1);
         r.commit(2, 0);
-        r.status(3, COMMITTED);
-        r.settledAt(0, 0);
-        r.settledValue(1, 0);
+        r.opsLeft(MAX_OPS - 2);
         r.commit(1, 2);
-        r.settledAt(0, 1);
-        r.settledAt(1, 2);
-        r.settledAt(2, 3);
+        r.opsLeft(MAX_OPS - 2);
+        r.commit(3, 1);
+        r.opsLeft(MAX_OPS - 2);
     }
 
-    private static void settlesAfterDirectPredecessors() {
-        Run r = new Run("predecessor in the middle", 4, 3);
+    private static void noValueChanges() {
+        Run r = new Run(4, 3);
         r.beginAll(1, 3);
-        r.read(1, 0, 0);
-        r.write(2, 0, 1, DONE);
-        r.read(2, 1, 0);
-        r.write(3, 1, 2, DONE);
-        r.commit(3, 1);
-        r.status(3, COMMITTED);
-        r.commit(2, 1);
-        r.status(2, COMMITTED);
-        r.status(3, COMMITTED);
+        r.read(2, 0, 0);
+        r.write(1, 0, 3, DONE);
+        r.write(2, 1, 4, DONE);
+        r.write(3, 0, 5, DONE);
         r.commit(1, 1);
-        r.settledAt(0, 1);
-        r.settledAt(1, 2);
-        r.settledAt(2, 3);
+        r.status(1, COMMITTED);
+        r.value(0, 5);
+        r.writer(0, 3);
+        r.value(1, 4);
+        r.writer(1, 2);
+        r.commit(2, 1);
+        r.statuses(SETTLED, SETTLED, ACTIVE);
+        r.value(0, 5);
+        r.writer(0, 3);
+        r.value(1, 4);
+        // The last writer of item 1 is still 2, but settled, so that nobody reads from it.
+        r.read(3, 1, 4);
+        r.commit(3, 1);
+        r.value(0, 5);
+        r.value(2, 0);
+    }
+
+    private static void withoutEntries() {
+        Run r = new Run(2, 1);
+        r.begin(1);
+        r.commit(1, 1);
+        r.status(1, SETTLED);
+        r.settledOrder(1);
+        r.opsLeft(MAX_OPS);
+        // The log being full does not keep it from committing.
+        r.beginAll(2, 3);
+        r.readUntilLeft(2, 0, 0, 0);
+        r.commit(3, 1);
+        r.settledOrder(1, 3);
     }
 }
