@@ -52,7 +52,7 @@ final class FaceTest implements Answers {
                 hidden.add(m.getName());
                 continue;
             }
-            same("modifiers of " + m.getName(), m.getModifiers(), Modifier.PUBLIC);
+            same("modifiers of " + m.getName(), m.getModifiers() & ~Modifier.FINAL, Modifier.PUBLIC);
             same("type of " + m.getName(), m.getReturnType(), int.class);
             boolean ints = Arrays.stream(m.getParameterTypes()).allMatch(p -> p == int.class);
             same("int parameters alone in " + m.getName(), ints, true);

@@ -5,7 +5,9 @@ final class Promise01ConstructionTest implements Answers {
     public static void main(String[] args) {
         Check.part("Promise 1: Construction and the start");
         Check.sentence("makes a scheduler", Promise01ConstructionTest::objectsAreApart);
-        Check.sentence("slots is the greatest number of open transactions at one time", Promise01ConstructionTest::slotsWithin);
+        Check.sentence("makes a scheduler", Promise01ConstructionTest::objectsOfOtherSizesAreApart);
+        Check.sentence("slots is the greatest number of open transactions at one time",
+                Promise01ConstructionTest::slotsWithin);
         Check.sentence("a value below 2 becomes 2", Promise01ConstructionTest::slotsBelow);
         Check.sentence("a value above 16 becomes 16", Promise01ConstructionTest::slotsAbove);
         Check.sentence("items is the number of items", Promise01ConstructionTest::itemsWithin);
@@ -54,6 +56,32 @@ final class Promise01ConstructionTest implements Answers {
         second.begin(1);
     }
 
+    private static void objectsOfOtherSizesAreApart() {
+        Run small = new Run(2, 1);
+        Run large = new Run(3, 2);
+        small.beginAll(1, 2);
+        large.beginAll(1, 3);
+        small.begin(FULL);
+        large.write(3, 1, 7, DONE);
+        small.write(1, 0, 5, DONE);
+        large.add(2, 1, 1, 8);
+        small.read(2, 0, 5);
+        small.commit(2, 0);
+        large.commit(3, 1);
+        small.write(1, 1, 5, NO_ITEM);
+        small.value(0, 5);
+        large.value(1, 8);
+        large.value(0, 0);
+        small.commit(1, 2);
+        large.commit(2, 1);
+        small.statuses(SETTLED, SETTLED, NONE);
+        large.statuses(ACTIVE, SETTLED, SETTLED);
+        small.settledOrder(1, 2);
+        large.settledOrder(3, 2);
+        small.settledValue(0, 5);
+        large.settledValue(1, 8);
+    }
+
     private static void slotsWithin() {
         for (int slots = 2; slots <= 16; slots++) {
             hasSlots(slots, slots);
@@ -98,7 +126,8 @@ final class Promise01ConstructionTest implements Answers {
     }
 
     private static void bothAdjusted() {
-        int[][] cases = {{LOW, HIGH, 2, 8}, {HIGH, LOW, 16, 1}, {LOW, LOW, 2, 1}, {HIGH, HIGH, 16, 8}, {5, 3, 5, 3}, {3, 5, 3, 5}};
+        int[][] cases = {{LOW, HIGH, 2, 8}, {HIGH, LOW, 16, 1}, {LOW, LOW, 2, 1}, {HIGH, HIGH, 16, 8},
+                {5, 3, 5, 3}, {3, 5, 3, 5}};
         for (int[] c : cases) {
             Run r = new Run(c[0], c[1]);
             r.beginAll(1, c[2]);

@@ -7,6 +7,8 @@ final class Promise02BeginTest implements Answers {
         Check.sentence("The number of open transactions is slots: FULL.", Promise02BeginTest::full);
         Check.sentence("begun grows by one", Promise02BeginTest::begunGrowsByOne);
         Check.sentence("is ACTIVE with no log entries", Promise02BeginTest::activeWithNoEntries);
+        Check.sentence("is ACTIVE with no log entries", Promise02BeginTest::nothingComesFromSettledOnes);
+        Check.sentence("is ACTIVE with no log entries", Promise02BeginTest::nothingComesFromAbortedOnes);
         Check.sentence("its number is the answer", Promise02BeginTest::theNumberIsTheAnswer);
         Check.sentence("Nothing else changes; no settling is done.", Promise02BeginTest::nothingElseChanges);
         Check.sentence("WAITING and COMMITTED transactions count as open here", Promise02BeginTest::waitingCounts);
@@ -88,6 +90,47 @@ final class Promise02BeginTest implements Answers {
             r.waitsFor(7, t, 0);
             r.waitsFor(t, 7, 0);
         }
+    }
+
+    private static void nothingComesFromSettledOnes() {
+        Run r = new Run(2, 2);
+        r.beginAll(1, 2);
+        r.write(1, 0, 1, DONE);
+        r.read(2, 0, 1);
+        r.commit(1, 1);
+        r.status(1, SETTLED);
+        // 3 takes the slot of 1, and nothing else: 2 neither comes after it nor waits for it.
+        r.begin(3);
+        isFresh(r, 3, 2);
+        r.commit(2, 1);
+        r.statuses(SETTLED, SETTLED, ACTIVE);
+    }
+
+    private static void nothingComesFromAbortedOnes() {
+        Run r = new Run(2, 2);
+        r.beginAll(1, 2);
+        r.write(2, 1, 2, DONE);
+        r.read(1, 1, 2);
+        r.add(1, 0, 1, 1);
+        r.write(2, 0, 2, CYCLE);
+        r.statuses(ABORTED, ABORTED);
+        r.beginAll(3, 4);
+        isFresh(r, 3, 4);
+        isFresh(r, 4, 3);
+        r.commit(4, 1);
+        r.status(4, SETTLED);
+        r.commit(3, 1);
+    }
+
+    private static void isFresh(Run r, int t, int other) {
+        for (int x = 0; x < 2; x++) {
+            r.access(t, x, 0);
+            r.written(t, x, NOT_WRITTEN);
+        }
+        r.before(t, other, 0);
+        r.before(other, t, 0);
+        r.waitsFor(t, other, 0);
+        r.waitsFor(other, t, 0);
     }
 
     private static void theNumberIsTheAnswer() {

@@ -1,28 +1,37 @@
 final class Promise03ReadTest implements Answers {
+    private static final OperationEdges EDGES = new OperationEdges((r, t, x, v, want) -> r.read(t, x, want));
+
     public static void main(String[] args) {
         Check.part("Promise 3: read");
         Check.sentence("read(t, x): transaction t reads item x.", Promise03ReadTest::readsTheItem);
-        Check.sentence("Refusals in order:", Promise03ReadTest::refusalsInOrder);
-        Check.sentence("t < 1 or t > begun: NO_TXN.", Promise03ReadTest::noTransaction);
-        Check.sentence("t is not ACTIVE: NOT_ACTIVE.", Promise03ReadTest::notActive);
-        Check.sentence("x < 0 or x >= items: NO_ITEM.", Promise03ReadTest::noItem);
+        Check.sentence("Refusals in order:", EDGES::refusalsInOrder);
+        Check.sentence("t < 1 or t > begun: NO_TXN.", EDGES::noTransaction);
+        Check.sentence("t is not ACTIVE: NOT_ACTIVE.", EDGES::notActive);
+        Check.sentence("x < 0 or x >= items: NO_ITEM.", EDGES::noItem);
         Check.sentence("The log has MAX_OPS entries: NO_OPS.", Promise03ReadTest::logFull);
-        Check.sentence("The log has MAX_OPS entries: NO_OPS.", Promise03ReadTest::logFullBeforeCycle);
-        Check.sentence("if the graph would have a cycle once this read were entered in the log", Promise03ReadTest::cycleOfTwo);
-        Check.sentence("if the graph would have a cycle once this read were entered in the log", Promise03ReadTest::cycleOfFour);
-        Check.sentence("if the graph would have a cycle once this read were entered in the log", Promise03ReadTest::noCycle);
-        Check.sentence("the read is not entered", Promise03ReadTest::cycleIsNotEntered);
-        Check.sentence("adds no reading-from", Promise03ReadTest::cycleAddsNoReading);
+        Check.sentence("The log has MAX_OPS entries: NO_OPS.", EDGES::logFullBeforeCycle);
+        Check.sentence("if the graph would have a cycle once this read were entered in the log",
+                EDGES::cycleByLaterWrite);
+        Check.sentence("if the graph would have a cycle once this read were entered in the log",
+                EDGES::cycleByLaterAdd);
+        Check.sentence("if the graph would have a cycle once this read were entered in the log", EDGES::cycleOfFour);
+        Check.sentence("if the graph would have a cycle once this read were entered in the log",
+                Promise03ReadTest::noCycle);
+        Check.sentence("the read is not entered", EDGES::cycleIsNotEntered);
+        Check.sentence("adds no reading-from", EDGES::cycleAddsNoReading);
         Check.sentence("t is aborted (aborting, with its settling)", Promise03ReadTest::cycleSettles);
-        Check.sentence("and the answer is CYCLE", Promise03ReadTest::cycleIsTheAnswer);
-        Check.sentence("Other transactions that have read from t, directly or through others", Promise03ReadTest::cycleTakesReaders);
-        Check.sentence("current values and last writers follow from the entries that still stand", Promise03ReadTest::cycleTakesValuesBack);
+        Check.sentence("and the answer is CYCLE", EDGES::cycleIsTheAnswer);
+        Check.sentence("Other transactions that have read from t, directly or through others",
+                Promise03ReadTest::cycleTakesReaders);
+        Check.sentence("current values and last writers follow from the entries that still stand",
+                Promise03ReadTest::cycleTakesValuesBack);
         Check.sentence("Otherwise the read is entered", Promise03ReadTest::entered);
         Check.sentence("reading from is noted as defined above", Promise03ReadTest::readingIsNoted);
         Check.sentence("the answer is the current value of x", Promise03ReadTest::currentValue);
         Check.sentence("by t itself or by another transaction", Promise03ReadTest::ownAndOthersValues);
         Check.sentence("0 if there is none.", Promise03ReadTest::nothingStands);
-        Check.sentence("No status, value or last writer changes, and no settling is done.", Promise03ReadTest::nothingElseChanges);
+        Check.sentence("No status, value or last writer changes, and no settling is done.",
+                Promise03ReadTest::nothingElseChanges);
         Check.finish();
     }
 
@@ -38,92 +47,19 @@ final class Promise03ReadTest implements Answers {
         }
     }
 
-    private static void refusalsInOrder() {
-        Run r = Scenes.everyStatusAndLogFull();
-        r.read(7, 3, NO_TXN);
-        r.read(7, 0, NO_TXN);
-        r.read(2, 3, NOT_ACTIVE);
-        r.read(2, 0, NOT_ACTIVE);
-        r.read(6, 3, NO_ITEM);
-        r.read(6, 0, NO_OPS);
-        r = Scenes.everyStatus();
-        r.read(7, 3, NO_TXN);
-        r.read(5, 3, NOT_ACTIVE);
-    }
-
-    private static void noTransaction() {
-        new Run(2, 1).read(1, 0, NO_TXN);
-        Run r = Scenes.everyStatus();
-        for (int t : Scenes.NOT_BEGUN) {
-            r.read(t, 0, NO_TXN);
-        }
-        r = Scenes.allBegun();
-        r.read(MAX_BEGUN + 1, 0, NO_TXN);
-        r.read(MAX_BEGUN, 0, 0);
-    }
-
-    private static void notActive() {
-        Run r = Scenes.everyStatus();
-        for (int t = 2; t <= 5; t++) {
-            r.read(t, 0, NOT_ACTIVE);
-        }
-    }
-
-    private static void noItem() {
-        Run r = Scenes.everyStatus();
-        for (int x : Scenes.BAD_ITEMS) {
-            r.read(6, x, NO_ITEM);
-        }
-        r.read(6, 0, 33);
-        r.read(6, 2, 0);
-    }
-
     private static void logFull() {
         Run r = new Run(2, 1);
         r.beginAll(1, 2);
-        r.readUntilLeft(1, 0, 0, 1);
-        r.read(2, 0, 0);
+        r.write(1, 0, 5, DONE);
+        r.readUntilLeft(1, 0, 5, 1);
+        r.read(2, 0, 5);
         r.opsLeft(0);
+        // The last entry has all that others have.
+        r.access(2, 0, 1);
+        r.before(1, 2, 1);
+        r.waitsFor(2, 1, 1);
         r.read(1, 0, NO_OPS);
         r.read(2, 0, NO_OPS);
-    }
-
-    private static void logFullBeforeCycle() {
-        Run r = Scenes.everyStatusAndLogFull();
-        r.read(1, 0, NO_OPS);
-        r.status(1, ACTIVE);
-    }
-
-    private static void cycleOfTwo() {
-        Run r = new Run(3, 2);
-        r.beginAll(1, 2);
-        r.read(1, 0, 0);
-        r.write(2, 0, 3, DONE);
-        r.write(2, 1, 4, DONE);
-        r.read(1, 1, CYCLE);
-        r.statuses(ABORTED, ACTIVE);
-        r = new Run(3, 2);
-        r.beginAll(1, 2);
-        r.read(1, 0, 0);
-        r.add(2, 0, 3, 3);
-        r.add(2, 1, 4, 4);
-        r.read(1, 1, CYCLE);
-        r.statuses(ABORTED, ACTIVE);
-    }
-
-    private static void cycleOfFour() {
-        Run r = new Run(4, 4);
-        r.beginAll(1, 4);
-        r.read(4, 0, 0);
-        r.write(3, 0, 1, DONE);
-        r.read(3, 1, 0);
-        r.write(1, 1, 2, DONE);
-        r.read(1, 2, 0);
-        r.write(2, 2, 3, DONE);
-        r.write(2, 3, 5, DONE);
-        r.before(4, 2, 1);
-        r.read(4, 3, CYCLE);
-        r.statuses(ACTIVE, ACTIVE, ACTIVE, ABORTED);
     }
 
     private static void noCycle() {
@@ -145,33 +81,6 @@ final class Promise03ReadTest implements Answers {
         r.before(2, 1, 0);
     }
 
-    private static void cycleIsNotEntered() {
-        Run r = new Run(4, 2);
-        r.beginAll(1, 3);
-        r.read(1, 0, 0);
-        r.write(2, 0, 3, DONE);
-        r.write(2, 1, 4, DONE);
-        r.opsLeft(MAX_OPS - 3);
-        r.read(1, 1, CYCLE);
-        r.opsLeft(MAX_OPS - 3);
-        // The last free place of the log is free still.
-        r.readUntilLeft(2, 0, 3, 2);
-        r.read(3, 1, 4);
-        r.write(2, 1, 5, CYCLE);
-        r.opsLeft(1);
-    }
-
-    private static void cycleAddsNoReading() {
-        Run r = new Run(3, 2);
-        r.beginAll(1, 2);
-        r.read(1, 0, 0);
-        r.write(2, 0, 3, DONE);
-        r.write(2, 1, 4, DONE);
-        r.read(1, 1, CYCLE);
-        r.status(2, ACTIVE);
-        r.abort(2, 1);
-    }
-
     private static void cycleSettles() {
         Run r = new Run(4, 2);
         r.beginAll(1, 3);
@@ -185,12 +94,6 @@ final class Promise03ReadTest implements Answers {
         r.statuses(ABORTED, SETTLED, SETTLED);
         r.settledOrder(2, 3);
         r.settledValue(0, 9);
-    }
-
-    private static void cycleIsTheAnswer() {
-        Run r = Scenes.everyStatus();
-        r.read(1, 0, CYCLE);
-        r.read(1, 0, NOT_ACTIVE);
     }
 
     private static void cycleTakesReaders() {

@@ -1,24 +1,31 @@
 final class Promise04WriteTest implements Answers {
+    private static final OperationEdges EDGES = new OperationEdges(Run::write);
+
     public static void main(String[] args) {
         Check.part("Promise 4: write");
         Check.sentence("write(t, x, v): transaction t writes value v to item x.", Promise04WriteTest::writesTheItem);
-        Check.sentence("Refusals in order:", Promise04WriteTest::refusalsInOrder);
-        Check.sentence("t < 1 or t > begun: NO_TXN.", Promise04WriteTest::noTransaction);
-        Check.sentence("t is not ACTIVE: NOT_ACTIVE.", Promise04WriteTest::notActive);
-        Check.sentence("x < 0 or x >= items: NO_ITEM.", Promise04WriteTest::noItem);
-        Check.sentence("v < 0 or v > 999: BAD_VALUE.", Promise04WriteTest::badValue);
-        Check.sentence("v < 0 or v > 999: BAD_VALUE.", Promise04WriteTest::badValueBeforeCycle);
+        Check.sentence("Refusals in order:", EDGES::refusalsInOrder);
+        Check.sentence("Refusals in order:", EDGES::refusalsInOrderWithBadValues);
+        Check.sentence("t < 1 or t > begun: NO_TXN.", EDGES::noTransaction);
+        Check.sentence("t is not ACTIVE: NOT_ACTIVE.", EDGES::notActive);
+        Check.sentence("x < 0 or x >= items: NO_ITEM.", EDGES::noItem);
+        Check.sentence("v < 0 or v > 999: BAD_VALUE.", EDGES::badValue);
+        Check.sentence("v < 0 or v > 999: BAD_VALUE.", Promise04WriteTest::goodValues);
         Check.sentence("The log has MAX_OPS entries: NO_OPS.", Promise04WriteTest::logFull);
-        Check.sentence("The log has MAX_OPS entries: NO_OPS.", Promise04WriteTest::logFullBeforeCycle);
-        Check.sentence("if the graph would have a cycle once this write were entered", Promise04WriteTest::cycleByLaterRead);
-        Check.sentence("if the graph would have a cycle once this write were entered", Promise04WriteTest::cycleByLaterWrite);
-        Check.sentence("if the graph would have a cycle once this write were entered", Promise04WriteTest::cycleOfThree);
-        Check.sentence("if the graph would have a cycle once this write were entered", Promise04WriteTest::onlyThoseThatCloseOne);
-        Check.sentence("nothing is entered", Promise04WriteTest::cycleIsNotEntered);
+        Check.sentence("The log has MAX_OPS entries: NO_OPS.", EDGES::logFullBeforeCycle);
+        Check.sentence("if the graph would have a cycle once this write were entered", EDGES::cycleByLaterRead);
+        Check.sentence("if the graph would have a cycle once this write were entered", EDGES::cycleByLaterWrite);
+        Check.sentence("if the graph would have a cycle once this write were entered", EDGES::cycleByLaterAdd);
+        Check.sentence("if the graph would have a cycle once this write were entered", EDGES::cycleOfFour);
+        Check.sentence("if the graph would have a cycle once this write were entered",
+                Promise04WriteTest::onlyThoseThatCloseOne);
+        Check.sentence("nothing is entered", EDGES::cycleIsNotEntered);
         Check.sentence("t is aborted (aborting, with its settling)", Promise04WriteTest::cycleTakesReadersAndSettles);
-        Check.sentence("and the answer is CYCLE", Promise04WriteTest::cycleIsTheAnswer);
-        Check.sentence("Otherwise the write is entered with stored value v, and the answer is DONE.", Promise04WriteTest::entered);
-        Check.sentence("The current value of x is then v and its last writer is t.", Promise04WriteTest::currentValueAndLastWriter);
+        Check.sentence("and the answer is CYCLE", EDGES::cycleIsTheAnswer);
+        Check.sentence("Otherwise the write is entered with stored value v, and the answer is DONE.",
+                Promise04WriteTest::entered);
+        Check.sentence("The current value of x is then v and its last writer is t.",
+                Promise04WriteTest::currentValueAndLastWriter);
         Check.sentence("No reading-from is added", Promise04WriteTest::noReadingFrom);
         Check.sentence("no status changes, and no settling is done", Promise04WriteTest::nothingElseChanges);
         Check.finish();
@@ -35,122 +42,26 @@ final class Promise04WriteTest implements Answers {
         }
     }
 
-    private static void refusalsInOrder() {
-        Run r = Scenes.everyStatusAndLogFull();
-        r.write(7, 3, 1000, NO_TXN);
-        r.write(7, 3, 1, NO_TXN);
-        r.write(7, 0, -1, NO_TXN);
-        r.write(7, 0, 1, NO_TXN);
-        r.write(2, 3, 1000, NOT_ACTIVE);
-        r.write(2, 3, 1, NOT_ACTIVE);
-        r.write(2, 0, -1, NOT_ACTIVE);
-        r.write(2, 0, 1, NOT_ACTIVE);
-        r.write(6, 3, 1000, NO_ITEM);
-        r.write(6, 3, 1, NO_ITEM);
-        r.write(6, 0, -1, BAD_VALUE);
-        r.write(6, 0, 1, NO_OPS);
-        r = Scenes.everyStatus();
-        r.write(7, 3, 1000, NO_TXN);
-        r.write(5, 3, 1000, NOT_ACTIVE);
-        r.write(6, 3, 1000, NO_ITEM);
-    }
-
-    private static void noTransaction() {
-        new Run(2, 1).write(1, 0, 1, NO_TXN);
+    private static void goodValues() {
         Run r = Scenes.everyStatus();
-        for (int t : Scenes.NOT_BEGUN) {
-            r.write(t, 0, 1, NO_TXN);
-        }
-        r = Scenes.allBegun();
-        r.write(MAX_BEGUN + 1, 0, 1, NO_TXN);
-        r.write(MAX_BEGUN, 0, 1, DONE);
-    }
-
-    private static void notActive() {
-        Run r = Scenes.everyStatus();
-        for (int t = 2; t <= 5; t++) {
-            r.write(t, 0, 1, NOT_ACTIVE);
-        }
-    }
-
-    private static void noItem() {
-        Run r = Scenes.everyStatus();
-        for (int x : Scenes.BAD_ITEMS) {
-            r.write(6, x, 1, NO_ITEM);
-        }
-        r.write(6, 0, 1, DONE);
-        r.write(6, 2, 1, DONE);
-    }
-
-    private static void badValue() {
-        Run r = Scenes.everyStatus();
-        for (int v : Scenes.BAD_VALUES) {
-            r.write(6, 2, v, BAD_VALUE);
-        }
         for (int v : new int[] {0, 1, 998, 999}) {
             r.write(6, 2, v, DONE);
             r.value(2, v);
         }
     }
 
-    private static void badValueBeforeCycle() {
-        Run r = Scenes.everyStatus();
-        r.write(1, 0, 1000, BAD_VALUE);
-        r.write(1, 0, -1, BAD_VALUE);
-        r.status(1, ACTIVE);
-    }
-
     private static void logFull() {
         Run r = new Run(2, 2);
         r.beginAll(1, 2);
         r.readUntilLeft(1, 0, 0, 1);
-        r.write(2, 1, 6, DONE);
-        r.opsLeft(0);
-        r.write(2, 1, 7, NO_OPS);
-        r.write(1, 0, 7, NO_OPS);
-        r.value(1, 6);
-    }
-
-    private static void logFullBeforeCycle() {
-        Run r = Scenes.everyStatusAndLogFull();
-        r.write(1, 0, 1, NO_OPS);
-        r.status(1, ACTIVE);
-    }
-
-    private static void cycleByLaterRead() {
-        Run r = new Run(2, 1);
-        r.beginAll(1, 2);
-        r.write(1, 0, 5, DONE);
-        r.read(2, 0, 5);
-        r.write(1, 0, 6, CYCLE);
-        r.statuses(ABORTED, ABORTED);
-        r.value(0, 0);
-        r.writer(0, 0);
-    }
-
-    private static void cycleByLaterWrite() {
-        Run r = new Run(2, 1);
-        r.beginAll(1, 2);
-        r.write(1, 0, 5, DONE);
         r.write(2, 0, 6, DONE);
-        r.write(1, 0, 7, CYCLE);
-        r.statuses(ABORTED, ACTIVE);
+        r.opsLeft(0);
+        // The last entry has all that others have.
         r.value(0, 6);
-        r.writer(0, 2);
-        r.write(2, 0, 8, DONE);
-    }
-
-    private static void cycleOfThree() {
-        Run r = new Run(3, 3);
-        r.beginAll(1, 3);
-        r.read(3, 0, 0);
-        r.write(1, 0, 1, DONE);
-        r.read(1, 1, 0);
-        r.write(2, 1, 2, DONE);
-        r.read(2, 2, 0);
-        r.write(3, 2, 3, CYCLE);
-        r.statuses(ACTIVE, ACTIVE, ABORTED);
-        r.value(2, 0);
+        r.access(2, 0, 2);
+        r.before(1, 2, 1);
+        r.write(2, 0, 7, NO_OPS);
+        r.write(1, 1, 7, NO_OPS);
     }
 
     private static void onlyThoseThatCloseOne() {
@@ -170,16 +81,6 @@ final class Promise04WriteTest implements Answers {
         r.statuses(ABORTED, ABORTED, ACTIVE, ACTIVE);
     }
 
-    private static void cycleIsNotEntered() {
-        Run r = Scenes.everyStatus();
-        r.readUntilLeft(6, 1, 44, 1);
-        r.write(1, 0, 7, CYCLE);
-        r.opsLeft(1);
-        r.value(0, 33);
-        r.statuses(ABORTED, ABORTED, SETTLED, SETTLED, ABORTED, ACTIVE);
-        r.settledValue(0, 33);
-    }
-
     private static void cycleTakesReadersAndSettles() {
         Run r = new Run(5, 2);
         r.beginAll(1, 4);
@@ -197,12 +98,6 @@ final class Promise04WriteTest implements Answers {
         r.value(1, 9);
         r.writer(1, 0);
         r.settledOrder(4);
-    }
-
-    private static void cycleIsTheAnswer() {
-        Run r = Scenes.everyStatus();
-        r.write(1, 0, 0, CYCLE);
-        r.write(1, 0, 0, NOT_ACTIVE);
     }
 
     private static void entered() {

@@ -1,32 +1,41 @@
 final class Promise05AddTest implements Answers {
+    private static final OperationEdges EDGES = new OperationEdges(Run::add);
+
     public static void main(String[] args) {
         Check.part("Promise 5: add");
-        Check.sentence("as one operation that both reads and writes and makes one log entry", Promise05AddTest::oneEntry);
+        Check.sentence("as one operation that both reads and writes and makes one log entry",
+                Promise05AddTest::oneEntry);
         Check.sentence("as one operation that both reads and writes", Promise05AddTest::conflictsWithReadsAndWrites);
-        Check.sentence("Refusals in order:", Promise05AddTest::refusalsInOrder);
-        Check.sentence("t < 1 or t > begun: NO_TXN.", Promise05AddTest::noTransaction);
-        Check.sentence("t is not ACTIVE: NOT_ACTIVE.", Promise05AddTest::notActive);
-        Check.sentence("x < 0 or x >= items: NO_ITEM.", Promise05AddTest::noItem);
-        Check.sentence("d < 0 or d > 999: BAD_VALUE.", Promise05AddTest::badValue);
-        Check.sentence("d < 0 or d > 999: BAD_VALUE.", Promise05AddTest::badValueBeforeCycle);
+        Check.sentence("Refusals in order:", EDGES::refusalsInOrder);
+        Check.sentence("Refusals in order:", EDGES::refusalsInOrderWithBadValues);
+        Check.sentence("t < 1 or t > begun: NO_TXN.", EDGES::noTransaction);
+        Check.sentence("t is not ACTIVE: NOT_ACTIVE.", EDGES::notActive);
+        Check.sentence("x < 0 or x >= items: NO_ITEM.", EDGES::noItem);
+        Check.sentence("d < 0 or d > 999: BAD_VALUE.", EDGES::badValue);
+        Check.sentence("d < 0 or d > 999: BAD_VALUE.", Promise05AddTest::goodValues);
         Check.sentence("The log has MAX_OPS entries: NO_OPS.", Promise05AddTest::logFull);
-        Check.sentence("The log has MAX_OPS entries: NO_OPS.", Promise05AddTest::logFullBeforeCycle);
-        Check.sentence("if the graph would have a cycle once this add were entered", Promise05AddTest::cycleByLaterRead);
-        Check.sentence("if the graph would have a cycle once this add were entered", Promise05AddTest::cycleByLaterWrite);
+        Check.sentence("The log has MAX_OPS entries: NO_OPS.", EDGES::logFullBeforeCycle);
+        Check.sentence("if the graph would have a cycle once this add were entered", EDGES::cycleByLaterRead);
+        Check.sentence("if the graph would have a cycle once this add were entered", EDGES::cycleByLaterWrite);
+        Check.sentence("if the graph would have a cycle once this add were entered", EDGES::cycleByLaterAdd);
+        Check.sentence("if the graph would have a cycle once this add were entered", EDGES::cycleOfFour);
         Check.sentence("if the graph would have a cycle once this add were entered", Promise05AddTest::noCycle);
-        Check.sentence("nothing is entered", Promise05AddTest::cycleIsNotEntered);
-        Check.sentence("no reading-from is added", Promise05AddTest::cycleAddsNoReading);
+        Check.sentence("nothing is entered", EDGES::cycleIsNotEntered);
+        Check.sentence("no reading-from is added", EDGES::cycleAddsNoReading);
         Check.sentence("t is aborted (aborting, with its settling)", Promise05AddTest::cycleTakesReadersAndSettles);
-        Check.sentence("and the answer is CYCLE", Promise05AddTest::cycleIsTheAnswer);
-        Check.sentence("reading from is noted by the last writer of x before the add", Promise05AddTest::readsFromTheWriterBefore);
-        Check.sentence("reading from is noted by the last writer of x before the add", Promise05AddTest::readsFromNobodyNew);
+        Check.sentence("and the answer is CYCLE", EDGES::cycleIsTheAnswer);
+        Check.sentence("reading from is noted by the last writer of x before the add",
+                Promise05AddTest::readsFromTheWriterBefore);
+        Check.sentence("reading from is noted by the last writer of x before the add",
+                Promise05AddTest::readsFromNobodyNew);
         Check.sentence("stored value (c + d) % 1000", Promise05AddTest::sumsBelowTheWrap);
         Check.sentence("stored value (c + d) % 1000", Promise05AddTest::sumsThatWrap);
         Check.sentence("c being the current value of x before the add", Promise05AddTest::ownValueBefore);
         Check.sentence("c being the current value of x before the add", Promise05AddTest::othersValueBefore);
         Check.sentence("c being the current value of x before the add", Promise05AddTest::nothingStandsBefore);
         Check.sentence("The answer is the stored value.", Promise05AddTest::answerIsTheStoredValue);
-        Check.sentence("The current value of x is then that value and its last writer is t.", Promise05AddTest::currentValueAndLastWriter);
+        Check.sentence("The current value of x is then that value and its last writer is t.",
+                Promise05AddTest::currentValueAndLastWriter);
         Check.sentence("An add with d = 0 is an add like any other.", Promise05AddTest::zeroIsEntered);
         Check.sentence("An add with d = 0 is an add like any other.", Promise05AddTest::zeroConflicts);
         Check.sentence("No status changes, and no settling is done.", Promise05AddTest::nothingElseChanges);
@@ -59,110 +68,26 @@ final class Promise05AddTest implements Answers {
         r.before(4, 5, 1);
     }
 
-    private static void refusalsInOrder() {
-        Run r = Scenes.everyStatusAndLogFull();
-        r.add(7, 3, 1000, NO_TXN);
-        r.add(7, 3, 1, NO_TXN);
-        r.add(7, 0, -1, NO_TXN);
-        r.add(7, 0, 1, NO_TXN);
-        r.add(2, 3, 1000, NOT_ACTIVE);
-        r.add(2, 3, 1, NOT_ACTIVE);
-        r.add(2, 0, -1, NOT_ACTIVE);
-        r.add(2, 0, 1, NOT_ACTIVE);
-        r.add(6, 3, 1000, NO_ITEM);
-        r.add(6, 3, 1, NO_ITEM);
-        r.add(6, 0, -1, BAD_VALUE);
-        r.add(6, 0, 1, NO_OPS);
-        r = Scenes.everyStatus();
-        r.add(7, 3, 1000, NO_TXN);
-        r.add(5, 3, 1000, NOT_ACTIVE);
-        r.add(6, 3, 1000, NO_ITEM);
-    }
-
-    private static void noTransaction() {
-        new Run(2, 1).add(1, 0, 1, NO_TXN);
+    private static void goodValues() {
         Run r = Scenes.everyStatus();
-        for (int t : Scenes.NOT_BEGUN) {
-            r.add(t, 0, 1, NO_TXN);
-        }
-        r = Scenes.allBegun();
-        r.add(MAX_BEGUN + 1, 0, 1, NO_TXN);
-        r.add(MAX_BEGUN, 0, 1, 1);
-    }
-
-    private static void notActive() {
-        Run r = Scenes.everyStatus();
-        for (int t = 2; t <= 5; t++) {
-            r.add(t, 0, 1, NOT_ACTIVE);
-        }
-    }
-
-    private static void noItem() {
-        Run r = Scenes.everyStatus();
-        for (int x : Scenes.BAD_ITEMS) {
-            r.add(6, x, 1, NO_ITEM);
-        }
-        r.add(6, 0, 1, 34);
-        r.add(6, 2, 1, 1);
-    }
-
-    private static void badValue() {
-        Run r = Scenes.everyStatus();
-        for (int d : Scenes.BAD_VALUES) {
-            r.add(6, 2, d, BAD_VALUE);
-        }
         r.add(6, 2, 0, 0);
         r.add(6, 2, 1, 1);
         r.add(6, 2, 998, 999);
         r.add(6, 2, 999, 998);
     }
 
-    private static void badValueBeforeCycle() {
-        Run r = Scenes.everyStatus();
-        r.add(1, 0, 1000, BAD_VALUE);
-        r.add(1, 0, -1, BAD_VALUE);
-        r.status(1, ACTIVE);
-    }
-
     private static void logFull() {
         Run r = new Run(2, 2);
         r.beginAll(1, 2);
         r.readUntilLeft(1, 0, 0, 1);
-        r.add(2, 1, 6, 6);
+        r.add(2, 0, 6, 6);
         r.opsLeft(0);
-        r.add(2, 1, 7, NO_OPS);
-        r.add(1, 0, 0, NO_OPS);
-        r.value(1, 6);
-    }
-
-    private static void logFullBeforeCycle() {
-        Run r = Scenes.everyStatusAndLogFull();
-        r.add(1, 0, 1, NO_OPS);
-        r.status(1, ACTIVE);
-    }
-
-    private static void cycleByLaterRead() {
-        Run r = new Run(2, 1);
-        r.beginAll(1, 2);
-        r.write(1, 0, 5, DONE);
-        r.read(2, 0, 5);
-        r.add(1, 0, 1, CYCLE);
-        r.statuses(ABORTED, ABORTED);
-        r.value(0, 0);
-        r.writer(0, 0);
-    }
-
-    private static void cycleByLaterWrite() {
-        Run r = new Run(3, 2);
-        r.beginAll(1, 3);
-        r.read(1, 0, 0);
-        r.write(2, 0, 6, DONE);
-        r.read(2, 1, 0);
-        r.write(3, 1, 7, DONE);
-        r.before(1, 3, 1);
-        r.add(1, 1, 7, CYCLE);
-        r.statuses(ABORTED, ACTIVE, ACTIVE);
-        r.value(1, 7);
+        // The last entry has all that others have.
+        r.value(0, 6);
+        r.access(2, 0, 3);
+        r.before(1, 2, 1);
+        r.add(2, 0, 7, NO_OPS);
+        r.add(1, 1, 0, NO_OPS);
     }
 
     private static void noCycle() {
@@ -176,28 +101,6 @@ final class Promise05AddTest implements Answers {
         r.statuses(ACTIVE, ACTIVE);
         r.before(1, 2, 1);
         r.before(2, 1, 0);
-    }
-
-    private static void cycleIsNotEntered() {
-        Run r = Scenes.everyStatus();
-        r.readUntilLeft(6, 1, 44, 1);
-        r.add(1, 0, 7, CYCLE);
-        r.opsLeft(1);
-        r.value(0, 33);
-        r.statuses(ABORTED, ABORTED, SETTLED, SETTLED, ABORTED, ACTIVE);
-        r.settledValue(0, 33);
-    }
-
-    private static void cycleAddsNoReading() {
-        Run r = new Run(4, 2);
-        r.beginAll(1, 3);
-        r.read(1, 0, 0);
-        r.write(2, 0, 3, DONE);
-        r.write(2, 1, 4, DONE);
-        r.add(1, 1, 1, CYCLE);
-        // Had 1 read from 2, or been read from, more than 2 would be counted or aborted here.
-        r.statuses(ABORTED, ACTIVE, ACTIVE);
-        r.abort(2, 1);
     }
 
     private static void cycleTakesReadersAndSettles() {
@@ -217,12 +120,6 @@ final class Promise05AddTest implements Answers {
         r.writer(2, 4);
         r.value(0, 0);
         r.settledOrder(3);
-    }
-
-    private static void cycleIsTheAnswer() {
-        Run r = Scenes.everyStatus();
-        r.add(1, 0, 0, CYCLE);
-        r.add(1, 0, 0, NOT_ACTIVE);
     }
 
     private static void readsFromTheWriterBefore() {
@@ -256,14 +153,14 @@ final class Promise05AddTest implements Answers {
     }
 
     private static void sumsBelowTheWrap() {
-        int[][] cases = {{0, 0}, {0, 1}, {1, 0}, {0, 998}, {0, 999}, {1, 998}, {998, 1}, {999, 0}, {499, 500}, {500, 499}};
+        int[][] cases = {{0, 0}, {0, 1}, {1, 0}, {0, 998}, {0, 999}, {1, 998}, {998, 1}, {999, 0}, {499, 500}};
         for (int[] c : cases) {
             sum(c[0], c[1], c[0] + c[1]);
         }
     }
 
     private static void sumsThatWrap() {
-        int[][] cases = {{999, 1}, {1, 999}, {500, 500}, {998, 2}, {999, 2}, {2, 999}, {999, 998}, {998, 999}, {999, 999}};
+        int[][] cases = {{999, 1}, {1, 999}, {500, 500}, {998, 2}, {999, 2}, {2, 999}, {998, 999}, {999, 999}};
         for (int[] c : cases) {
             sum(c[0], c[1], c[0] + c[1] - 1000);
         }

@@ -5,18 +5,27 @@ final class Promise06CommitTest implements Answers {
         Check.sentence("t < 1 or t > begun: NO_TXN.", Promise06CommitTest::noTransaction);
         Check.sentence("t is not ACTIVE (a WAITING one included): NOT_ACTIVE.", Promise06CommitTest::notActive);
         Check.sentence("(a WAITING one included)", Promise06CommitTest::waitingIsNotActive);
-        Check.sentence("If t has read from some transaction that is now unfinished: t becomes WAITING", Promise06CommitTest::waitsForActive);
-        Check.sentence("If t has read from some transaction that is now unfinished: t becomes WAITING", Promise06CommitTest::waitsForWaiting);
-        Check.sentence("If t has read from some transaction that is now unfinished: t becomes WAITING", Promise06CommitTest::waitsForOneOfTwo);
+        Check.sentence("If t has read from some transaction that is now unfinished: t becomes WAITING",
+                Promise06CommitTest::waitsForActive);
+        Check.sentence("If t has read from some transaction that is now unfinished: t becomes WAITING",
+                Promise06CommitTest::waitsForWaiting);
+        Check.sentence("If t has read from some transaction that is now unfinished: t becomes WAITING",
+                Promise06CommitTest::waitsForOneOfTwo);
         Check.sentence("that is now unfinished", Promise06CommitTest::doesNotWaitForCommitted);
-        Check.sentence("the answer is 0, and nothing else changes (no settling)", Promise06CommitTest::waitingChangesNothingElse);
+        Check.sentence("the answer is 0, and nothing else changes (no settling)",
+                Promise06CommitTest::waitingChangesNothingElse);
         Check.sentence("Otherwise t becomes COMMITTED", Promise06CommitTest::becomesCommitted);
-        Check.sentence("as long as there is a WAITING transaction that has read from no transaction now unfinished", Promise06CommitTest::waitersInTurn);
-        Check.sentence("as long as there is a WAITING transaction that has read from no transaction now unfinished", Promise06CommitTest::waitersAgainstTheNumbers);
-        Check.sentence("as long as there is a WAITING transaction that has read from no transaction now unfinished", Promise06CommitTest::waitersForTwo);
+        Check.sentence("as long as there is a WAITING transaction that has read from no transaction now unfinished",
+                Promise06CommitTest::waitersInTurn);
+        Check.sentence("as long as there is a WAITING transaction that has read from no transaction now unfinished",
+                Promise06CommitTest::waitersAgainstTheNumbers);
+        Check.sentence("as long as there is a WAITING transaction that has read from no transaction now unfinished",
+                Promise06CommitTest::waitersForTwo);
         Check.sentence("it becomes COMMITTED too", Promise06CommitTest::onlyWaitersComeAlong);
         Check.sentence("then settling is done", Promise06CommitTest::thenSettling);
-        Check.sentence("The answer is the number of transactions that became COMMITTED in this call", Promise06CommitTest::countsThoseOfThisCall);
+        Check.sentence("then settling is done", Promise06CommitTest::settlingAfterTheWaiters);
+        Check.sentence("The answer is the number of transactions that became COMMITTED in this call",
+                Promise06CommitTest::countsThoseOfThisCall);
         Check.sentence("(t included, so 1 or more)", Promise06CommitTest::countsItself);
         Check.sentence("whether or not they were then SETTLED", Promise06CommitTest::countsSettledOrNot);
         Check.sentence("A commit makes no log entry", Promise06CommitTest::noLogEntry);
@@ -133,31 +142,30 @@ final class Promise06CommitTest implements Answers {
     }
 
     private static void waitersInTurn() {
-        Run r = new Run(16, 8);
-        r.beginAll(1, 9);
-        for (int t = 1; t <= 8; t++) {
-            r.write(t, t - 1, t, DONE);
-            r.read(t + 1, t - 1, t);
+        Run r = new Run(16, 1);
+        r.beginAll(1, 16);
+        for (int t = 1; t <= 16; t++) {
+            // Each reads from the one before it.
+            r.add(t, 0, 1, t);
         }
-        for (int t = 9; t >= 2; t--) {
+        for (int t = 16; t >= 2; t--) {
             r.commit(t, 0);
         }
-        r.commit(1, 9);
-        r.settledOrder(1, 2, 3, 4, 5, 6, 7, 8, 9);
+        r.commit(1, 16);
+        r.settledOrder(1, 2, 3, 4, 5, 6, 7, 8, 9, 10, 11, 12, 13, 14, 15, 16);
     }
 
     private static void waitersAgainstTheNumbers() {
-        Run r = new Run(16, 8);
-        r.beginAll(1, 9);
-        for (int t = 9; t >= 2; t--) {
-            r.write(t, t - 2, t, DONE);
-            r.read(t - 1, t - 2, t);
+        Run r = new Run(16, 1);
+        r.beginAll(1, 16);
+        for (int t = 16; t >= 1; t--) {
+            r.add(t, 0, 1, 17 - t);
         }
-        for (int t = 1; t <= 8; t++) {
+        for (int t = 1; t <= 15; t++) {
             r.commit(t, 0);
         }
-        r.commit(9, 9);
-        r.settledOrder(9, 8, 7, 6, 5, 4, 3, 2, 1);
+        r.commit(16, 16);
+        r.settledOrder(16, 15, 14, 13, 12, 11, 10, 9, 8, 7, 6, 5, 4, 3, 2, 1);
     }
 
     private static void waitersForTwo() {
@@ -202,6 +210,21 @@ final class Promise06CommitTest implements Answers {
         r.commit(2, 1);
         r.statuses(SETTLED, SETTLED, ACTIVE, SETTLED);
         r.settledOrder(2, 4, 1);
+    }
+
+    private static void settlingAfterTheWaiters() {
+        Run r = new Run(6, 2);
+        r.beginAll(1, 5);
+        r.write(3, 0, 3, DONE);
+        r.read(1, 0, 3);
+        r.commit(1, 0);
+        r.read(3, 1, 0);
+        r.write(5, 1, 5, DONE);
+        r.commit(5, 1);
+        r.statuses(WAITING, ACTIVE, ACTIVE, ACTIVE, COMMITTED);
+        // Were 3 settled before 1 is committed, 5 would come before 1.
+        r.commit(3, 2);
+        r.settledOrder(3, 1, 5);
     }
 
     private static void countsThoseOfThisCall() {

@@ -6,14 +6,19 @@ final class Promise07AbortTest implements Answers {
         Check.sentence("t is neither ACTIVE nor WAITING: NOT_ACTIVE.", Promise07AbortTest::neitherActiveNorWaiting);
         Check.sentence("t is neither ACTIVE nor WAITING", Promise07AbortTest::waitingCanBeAborted);
         Check.sentence("Otherwise t is aborted (aborting, with its settling)", Promise07AbortTest::abortedWithSettling);
-        Check.sentence("the answer is the number of transactions that became ABORTED", Promise07AbortTest::countsReaders);
-        Check.sentence("the answer is the number of transactions that became ABORTED", Promise07AbortTest::countsNobodyTwice);
+        Check.sentence("the answer is the number of transactions that became ABORTED",
+                Promise07AbortTest::countsReaders);
+        Check.sentence("the answer is the number of transactions that became ABORTED",
+                Promise07AbortTest::countsNobodyTwice);
         Check.sentence("(t included, so 1 or more)", Promise07AbortTest::countsItself);
         Check.sentence("Transactions that became SETTLED are not counted.", Promise07AbortTest::settledAreNotCounted);
         Check.sentence("The log keeps its entries", Promise07AbortTest::logKeepsEntries);
         Check.sentence("those of the aborted transactions no longer stand", Promise07AbortTest::noLongerStand);
         Check.sentence("each item shows the latest write or add that still stands", Promise07AbortTest::valuesComeBack);
-        Check.sentence("each item shows the latest write or add that still stands", Promise07AbortTest::settledValueComesBack);
+        Check.sentence("each item shows the latest write or add that still stands",
+                Promise07AbortTest::abortedValuesDoNotComeBack);
+        Check.sentence("each item shows the latest write or add that still stands",
+                Promise07AbortTest::settledValueComesBack);
         Check.sentence("even when later writers remain than the aborted one", Promise07AbortTest::laterWritersRemain);
         Check.sentence("An abort makes no transaction COMMITTED.", Promise07AbortTest::makesNobodyCommitted);
         Check.finish();
@@ -159,6 +164,19 @@ final class Promise07AbortTest implements Answers {
         r.abort(1, 1);
         r.value(0, 0);
         r.writer(0, 0);
+    }
+
+    private static void abortedValuesDoNotComeBack() {
+        Run r = new Run(4, 1);
+        r.beginAll(1, 3);
+        r.write(1, 0, 1, DONE);
+        r.write(2, 0, 2, DONE);
+        r.write(3, 0, 3, DONE);
+        r.abort(2, 1);
+        // 3 wrote over the value of 2, but that is gone by now.
+        r.abort(3, 1);
+        r.value(0, 1);
+        r.writer(0, 1);
     }
 
     private static void settledValueComesBack() {

@@ -5,7 +5,8 @@ final class Promise10WriterTest implements Answers {
         Check.sentence("otherwise the last writer of x if it exists and is open", Promise10WriterTest::lastWriter);
         Check.sentence("if it exists and is open", Promise10WriterTest::everyOpenStatus);
         Check.sentence("else 0", Promise10WriterTest::zeroForReads);
-        Check.sentence("the answer is 0 when no entry that writes x (write or add) stands", Promise10WriterTest::zeroIfNothingStands);
+        Check.sentence("the answer is 0 when no entry that writes x (write or add) stands",
+                Promise10WriterTest::zeroIfNothingStands);
         Check.sentence("also when the last writer is SETTLED", Promise10WriterTest::zeroIfSettled);
         Check.sentence("also when the last writer is SETTLED", Promise10WriterTest::zeroOnceSettledByAnAbort);
         Check.sentence("It changes nothing.", Promise10WriterTest::changesNothing);

@@ -4,7 +4,8 @@ final class Promise13WaitsForTest implements Answers {
         Check.sentence("waitsFor(t, u), refusals in order:", Promise13WaitsForTest::refusalsInOrder);
         Check.sentence("t < 1 or t > begun or u < 1 or u > begun: NO_TXN.", Promise13WaitsForTest::noTransaction);
         Check.sentence("t or u is not open: NOT_OPEN.", Promise13WaitsForTest::notOpen);
-        Check.sentence("1 if u is unfinished and t has read from u (directly)", Promise13WaitsForTest::unfinishedSource);
+        Check.sentence("1 if u is unfinished and t has read from u (directly)",
+                Promise13WaitsForTest::unfinishedSource);
         Check.sentence("1 if u is unfinished and t has read from u (directly)", Promise13WaitsForTest::severalSources);
         Check.sentence("(directly)", Promise13WaitsForTest::directly);
         Check.sentence("else 0", Promise13WaitsForTest::finishedSource);

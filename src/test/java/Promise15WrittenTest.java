@@ -5,8 +5,10 @@ final class Promise15WrittenTest implements Answers {
         Check.sentence("t < 1 or t > begun: NO_TXN.", Promise15WrittenTest::noTransaction);
         Check.sentence("t is not open: NOT_OPEN.", Promise15WrittenTest::notOpen);
         Check.sentence("x < 0 or x >= items: NO_ITEM.", Promise15WrittenTest::noItem);
-        Check.sentence("the value stored by the latest log entry of t that writes x (write or add)", Promise15WrittenTest::latestWriteOrAdd);
-        Check.sentence("the value stored by the latest log entry of t that writes x (write or add)", Promise15WrittenTest::firstAndLastPlaceOfTheLog);
+        Check.sentence("the value stored by the latest log entry of t that writes x (write or add)",
+                Promise15WrittenTest::latestWriteOrAdd);
+        Check.sentence("the value stored by the latest log entry of t that writes x (write or add)",
+                Promise15WrittenTest::firstAndLastPlaceOfTheLog);
         Check.sentence("whether or not others have written x since", Promise15WrittenTest::othersWroteSince);
         Check.sentence("NOT_WRITTEN if there is none", Promise15WrittenTest::notWritten);
         Check.sentence("NOT_WRITTEN if there is none", Promise15WrittenTest::zeroIsWritten);

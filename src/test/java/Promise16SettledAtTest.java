@@ -3,8 +3,10 @@ final class Promise16SettledAtTest implements Answers {
 
     public static void main(String[] args) {
         Check.part("Promise 16: settledAt");
-        Check.sentence("the number of the transaction at place k (counted from 0) of the settled order", Promise16SettledAtTest::countedFromZero);
-        Check.sentence("the number of the transaction at place k (counted from 0) of the settled order", Promise16SettledAtTest::allPlaces);
+        Check.sentence("the number of the transaction at place k (counted from 0) of the settled order",
+                Promise16SettledAtTest::countedFromZero);
+        Check.sentence("the number of the transaction at place k (counted from 0) of the settled order",
+                Promise16SettledAtTest::allPlaces);
         Check.sentence("0 if there is no such place", Promise16SettledAtTest::noneAtFirst);
         Check.sentence("if k is negative", Promise16SettledAtTest::negative);
         Check.sentence("or not less than the number of settled transactions", Promise16SettledAtTest::beyondTheLast);

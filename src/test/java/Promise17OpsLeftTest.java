@@ -1,12 +1,14 @@
 final class Promise17OpsLeftTest implements Answers {
     public static void main(String[] args) {
         Check.part("Promise 17: opsLeft");
-        Check.sentence("opsLeft() answers MAX_OPS less the number of log entries.", Promise17OpsLeftTest::eachEntryCounts);
+        Check.sentence("opsLeft() answers MAX_OPS less the number of log entries.",
+                Promise17OpsLeftTest::eachEntryCounts);
         Check.sentence("opsLeft() answers MAX_OPS less the number of log entries.", Promise17OpsLeftTest::downToZero);
         Check.sentence("Entries of ABORTED transactions count as well", Promise17OpsLeftTest::abortedCount);
         Check.sentence("so the answer never grows", Promise17OpsLeftTest::neverGrows);
         Check.sentence("Operations refused", Promise17OpsLeftTest::refusedDoNotCount);
-        Check.sentence("or answered with CYCLE make no entry and do not lower it", Promise17OpsLeftTest::cyclesDoNotCount);
+        Check.sentence("or answered with CYCLE make no entry and do not lower it",
+                Promise17OpsLeftTest::cyclesDoNotCount);
         Check.sentence("It changes nothing.", Promise17OpsLeftTest::changesNothing);
         Check.finish();
     }

@@ -1,3 +1,5 @@
+import java.util.Arrays;
+
 /** Beginnings that several tests share, and the wrong arguments that go with them. */
 final class Scenes implements Answers {
     static final int SCENE_ITEMS = 3;
@@ -37,6 +39,20 @@ final class Scenes implements Answers {
     static Run everyStatusAndLogFull() {
         Run r = everyStatus();
         r.readUntilLeft(6, 1, 44, 0);
+        return r;
+    }
+
+    static final int[] FAR_APART = {1, 2, 32, 33, 64};
+
+    /** All transactions are begun; those of FAR_APART are ACTIVE, the others ABORTED. */
+    static Run farApart() {
+        Run r = new Run(6, SCENE_ITEMS);
+        for (int t = 1; t <= MAX_BEGUN; t++) {
+            r.begin(t);
+            if (Arrays.binarySearch(FAR_APART, t) < 0) {
+                r.abort(t, 1);
+            }
+        }
         return r;
     }
 

@@ -6,8 +6,10 @@ final class TermsAbortingTest implements Answers {
         Check.sentence("with each member m also every", TermsAbortingTest::readersOfReaders);
         Check.sentence("with each member m also every", TermsAbortingTest::readersOfReadersAgainstTheNumbers);
         Check.sentence("with each member m also every", TermsAbortingTest::readersByTwoWays);
+        Check.sentence("with each member m also every", TermsAbortingTest::firstAndLastNumber);
         Check.sentence("every unfinished transaction that has read from m", TermsAbortingTest::activeAndWaitingReaders);
-        Check.sentence("every unfinished transaction that has read from m", TermsAbortingTest::abortedReadersDoNotCount);
+        Check.sentence("every unfinished transaction that has read from m",
+                TermsAbortingTest::abortedReadersDoNotCount);
         Check.sentence("All members of S become ABORTED together.", TermsAbortingTest::together);
         Check.sentence("Then settling is done.", TermsAbortingTest::thenSettling);
         Check.finish();
@@ -39,25 +41,30 @@ final class TermsAbortingTest implements Answers {
     }
 
     private static void readersOfReaders() {
-        Run r = new Run(16, 8);
-        r.beginAll(1, 10);
-        for (int t = 1; t <= 8; t++) {
-            r.write(t, t - 1, t, DONE);
-            r.read(t + 1, t - 1, t);
+        Run r = new Run(16, 1);
+        r.beginAll(1, 16);
+        for (int t = 2; t <= 16; t++) {
+            // Each reads from the one before it.
+            r.add(t, 0, 1, t - 1);
         }
-        r.abort(1, 9);
-        r.statuses(ABORTED, ABORTED, ABORTED, ABORTED, ABORTED, ABORTED, ABORTED, ABORTED, ABORTED, ACTIVE);
+        r.abort(2, 15);
+        r.status(1, ACTIVE);
+        for (int t = 2; t <= 16; t++) {
+            r.status(t, ABORTED);
+        }
     }
 
     private static void readersOfReadersAgainstTheNumbers() {
-        Run r = new Run(16, 8);
-        r.beginAll(1, 10);
-        for (int t = 10; t >= 3; t--) {
-            r.write(t, t - 3, t, DONE);
-            r.read(t - 1, t - 3, t);
+        Run r = new Run(16, 1);
+        r.beginAll(1, 16);
+        for (int t = 15; t >= 1; t--) {
+            r.add(t, 0, 1, 16 - t);
         }
-        r.abort(10, 9);
-        r.statuses(ACTIVE, ABORTED, ABORTED, ABORTED, ABORTED, ABORTED, ABORTED, ABORTED, ABORTED, ABORTED);
+        r.abort(15, 15);
+        r.status(16, ACTIVE);
+        for (int t = 1; t <= 15; t++) {
+            r.status(t, ABORTED);
+        }
     }
 
     private static void readersByTwoWays() {
@@ -72,6 +79,21 @@ final class TermsAbortingTest implements Answers {
         r.read(4, 2, 3);
         r.abort(1, 4);
         r.statuses(ABORTED, ABORTED, ABORTED, ABORTED, ACTIVE);
+    }
+
+    private static void firstAndLastNumber() {
+        Run r = new Run(3, 1);
+        r.begin(1);
+        for (int t = 2; t < MAX_BEGUN; t++) {
+            r.begin(t);
+            r.abort(t, 1);
+        }
+        r.begin(MAX_BEGUN);
+        r.write(MAX_BEGUN, 0, 1, DONE);
+        r.read(1, 0, 1);
+        r.abort(MAX_BEGUN, 2);
+        r.status(1, ABORTED);
+        r.status(MAX_BEGUN, ABORTED);
     }
 
     private static void activeAndWaitingReaders() {

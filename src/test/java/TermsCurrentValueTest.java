@@ -1,7 +1,8 @@
 final class TermsCurrentValueTest implements Answers {
     public static void main(String[] args) {
         Check.part("Terms, Current value");
-        Check.sentence("the value stored by the latest standing entry that writes x", TermsCurrentValueTest::latestStandingWrite);
+        Check.sentence("the value stored by the latest standing entry that writes x",
+                TermsCurrentValueTest::latestStandingWrite);
         Check.sentence("Current value of item x", TermsCurrentValueTest::eachItemForItself);
         Check.sentence("0 if there is none.", TermsCurrentValueTest::zeroIfOnlyRead);
         Check.sentence("0 if there is none.", TermsCurrentValueTest::zeroIfAllAborted);

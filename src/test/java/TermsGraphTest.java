@@ -15,7 +15,10 @@ final class TermsGraphTest implements Answers {
         Check.sentence("an abort removes all edges at the aborted transaction", TermsGraphTest::abortRemovesEdges);
         Check.sentence("and no others", TermsGraphTest::abortRemovesNoOtherEdges);
         Check.sentence("A path is a sequence of one or more edges.", TermsGraphTest::pathOfOneEdge);
-        Check.sentence("A path is a sequence of one or more edges.", TermsGraphTest::pathsOfSeveralEdges);
+        Check.sentence("A path is a sequence of one or more edges.", TermsGraphTest::pathThroughAllSlots);
+        Check.sentence("A path is a sequence of one or more edges.",
+                TermsGraphTest::pathThroughAllSlotsAgainstTheNumbers);
+        Check.sentence("A path is a sequence of one or more edges.", TermsGraphTest::numbersFarApart);
         Check.sentence("The graph never has a cycle between calls.", TermsGraphTest::neverACycle);
         Check.finish();
     }
@@ -194,18 +197,65 @@ final class TermsGraphTest implements Answers {
         r.before(1, 3, 0);
     }
 
-    private static void pathsOfSeveralEdges() {
+    private static void pathThroughAllSlots() {
         Run r = new Run(16, 8);
-        r.beginAll(1, 9);
-        for (int t = 9; t >= 2; t--) {
-            r.read(t, t - 2, 0);
-            r.write(t - 1, t - 2, 1, DONE);
+        r.beginAll(1, 16);
+        for (int t = 1; t <= 15; t += 2) {
+            link(r, t, t + 1, t + 2, t / 2);
         }
-        for (int t = 1; t <= 9; t++) {
-            for (int u = 1; u <= 9; u++) {
+        for (int t = 1; t <= 16; t++) {
+            for (int u = 1; u <= 16; u++) {
+                r.before(t, u, t < u ? 1 : 0);
+            }
+        }
+        // The cycle needs all the sixteen.
+        r.read(1, 7, CYCLE);
+        r.status(1, ABORTED);
+    }
+
+    private static void pathThroughAllSlotsAgainstTheNumbers() {
+        Run r = new Run(16, 8);
+        r.beginAll(1, 16);
+        for (int t = 16; t >= 2; t -= 2) {
+            link(r, t, t - 1, t - 2, t / 2 - 1);
+        }
+        for (int t = 1; t <= 16; t++) {
+            for (int u = 1; u <= 16; u++) {
                 r.before(t, u, t > u ? 1 : 0);
             }
         }
+        r.read(16, 0, CYCLE);
+        r.status(16, ABORTED);
+    }
+
+    /** Edges from a to b and from b to c, if there is such a c, but none from a to c. */
+    private static void link(Run r, int a, int b, int c, int x) {
+        r.read(a, x, 0);
+        r.write(b, x, 1, DONE);
+        if (c >= 1 && c <= 16) {
+            r.read(c, x, 1);
+        }
+    }
+
+    private static void numbersFarApart() {
+        Run r = Scenes.farApart();
+        r.read(33, 0, 0);
+        r.write(64, 0, 5, DONE);
+        r.write(64, 1, 6, DONE);
+        r.write(1, 1, 7, DONE);
+        for (int t : Scenes.FAR_APART) {
+            for (int u : Scenes.FAR_APART) {
+                boolean path = t == 33 && u == 64 || t == 64 && u == 1 || t == 33 && u == 1;
+                r.before(t, u, path ? 1 : 0);
+            }
+        }
+        r.write(32, 1, 8, DONE);
+        r.before(33, 32, 1);
+        r.before(2, 32, 0);
+        r.write(33, 1, 9, CYCLE);
+        r.statuses(ACTIVE, ACTIVE);
+        r.status(32, ACTIVE);
+        r.status(64, ACTIVE);
     }
 
     private static void neverACycle() {

@@ -3,7 +3,8 @@ final class TermsLogTest implements Answers {
         Check.part("Terms, The log");
         Check.sentence("all operations carried out by read, write and add, in call order", TermsLogTest::inCallOrder);
         Check.sentence("over the whole life of the object", TermsLogTest::overTheWholeLife);
-        Check.sentence("An entry has a transaction, an item and a kind (read, write, add)", TermsLogTest::whatAnEntryHas);
+        Check.sentence("An entry has a transaction, an item and a kind (read, write, add)",
+                TermsLogTest::whatAnEntryHas);
         Check.sentence("if it is a write or an add, the value it stored", TermsLogTest::theValueStored);
         Check.sentence("Refused operations", TermsLogTest::refusedAreNotEntered);
         Check.sentence("operations that would close a cycle are not entered", TermsLogTest::cyclesAreNotEntered);

@@ -6,8 +6,10 @@ final class TermsReadingFromTest implements Answers {
         Check.sentence("let w be the last writer of x just before", TermsReadingFromTest::abortedWritersArePassedOver);
         Check.sentence("If w exists", TermsReadingFromTest::noWriter);
         Check.sentence("w is not t", TermsReadingFromTest::ownWrite);
+        Check.sentence("w is not t", TermsReadingFromTest::ownWriteOverAnothers);
         Check.sentence("w is unfinished at that moment", TermsReadingFromTest::activeOrWaiting);
         Check.sentence("from then on t has read from w", TermsReadingFromTest::fromThenOn);
+        Check.sentence("from then on t has read from w", TermsReadingFromTest::numbersFarApart);
         Check.sentence("Otherwise this operation adds no such relation.", TermsReadingFromTest::committedWriter);
         Check.sentence("Otherwise this operation adds no such relation.", TermsReadingFromTest::settledWriter);
         Check.sentence("Otherwise this operation adds no such relation.", TermsReadingFromTest::keepsEarlierRelations);
@@ -89,6 +91,18 @@ final class TermsReadingFromTest implements Answers {
         r.status(1, SETTLED);
     }
 
+    private static void ownWriteOverAnothers() {
+        Run r = new Run(3, 1);
+        r.beginAll(1, 2);
+        r.write(1, 0, 5, DONE);
+        r.write(2, 0, 6, DONE);
+        r.read(2, 0, 6);
+        r.add(2, 0, 1, 7);
+        r.waitsFor(2, 1, 0);
+        r.commit(2, 1);
+        r.statuses(ACTIVE, COMMITTED);
+    }
+
     private static void activeOrWaiting() {
         Run r = new Run(4, 2);
         r.beginAll(1, 4);
@@ -120,6 +134,25 @@ final class TermsReadingFromTest implements Answers {
         r.waitsFor(2, 1, 1);
         r.abort(1, 2);
         r.status(2, ABORTED);
+    }
+
+    private static void numbersFarApart() {
+        Run r = Scenes.farApart();
+        r.write(1, 0, 5, DONE);
+        r.read(33, 0, 5);
+        r.write(64, 1, 6, DONE);
+        r.read(32, 1, 6);
+        for (int t : Scenes.FAR_APART) {
+            for (int u : Scenes.FAR_APART) {
+                r.waitsFor(t, u, t == 33 && u == 1 || t == 32 && u == 64 ? 1 : 0);
+            }
+        }
+        r.commit(33, 0);
+        r.commit(32, 0);
+        r.abort(64, 2);
+        r.status(32, ABORTED);
+        r.commit(1, 2);
+        r.settledOrder(1, 33);
     }
 
     private static void committedWriter() {

@@ -10,12 +10,16 @@ final class TermsRefusalsTest implements Answers {
         Check.sentence("Every refused call changes nothing.", TermsRefusalsTest::storyWithRefusedCalls);
         Check.sentence("CYCLE is not a refusal in this sense: it aborts a transaction", TermsRefusalsTest::cycleAborts);
         Check.sentence("Getters change nothing.", TermsRefusalsTest::storyWithGetters);
-        Check.sentence("No call but those described as doing so changes anything.", TermsRefusalsTest::whatBeginChanges);
+        Check.sentence("No call but those described as doing so changes anything.",
+                TermsRefusalsTest::whatBeginChanges);
         Check.sentence("No call but those described as doing so changes anything.", TermsRefusalsTest::whatReadChanges);
-        Check.sentence("No call but those described as doing so changes anything.", TermsRefusalsTest::whatWriteChanges);
+        Check.sentence("No call but those described as doing so changes anything.",
+                TermsRefusalsTest::whatWriteChanges);
         Check.sentence("No call but those described as doing so changes anything.", TermsRefusalsTest::whatAddChanges);
-        Check.sentence("No call but those described as doing so changes anything.", TermsRefusalsTest::whatCommitChanges);
-        Check.sentence("No call but those described as doing so changes anything.", TermsRefusalsTest::whatAbortChanges);
+        Check.sentence("No call but those described as doing so changes anything.",
+                TermsRefusalsTest::whatCommitChanges);
+        Check.sentence("No call but those described as doing so changes anything.",
+                TermsRefusalsTest::whatAbortChanges);
         Check.finish();
     }
 

@@ -5,9 +5,11 @@ final class TermsSettlingTest implements Answers {
         Check.sentence("none of whose direct predecessors in the graph is open", TermsSettlingTest::heldUpByActive);
         Check.sentence("none of whose direct predecessors in the graph is open", TermsSettlingTest::heldUpByWaiting);
         Check.sentence("none of whose direct predecessors in the graph is open", TermsSettlingTest::heldUpByCommitted);
-        Check.sentence("none of whose direct predecessors in the graph is open", TermsSettlingTest::heldUpByOneOfSeveral);
+        Check.sentence("none of whose direct predecessors in the graph is open",
+                TermsSettlingTest::heldUpByOneOfSeveral);
         Check.sentence("none of whose direct predecessors in the graph is open", TermsSettlingTest::notHeldUpByOthers);
         Check.sentence("the one of these with the smallest number becomes SETTLED", TermsSettlingTest::smallestFirst);
+        Check.sentence("the one of these with the smallest number becomes SETTLED", TermsSettlingTest::numbersFarApart);
         Check.sentence("is put at the end of the settled order", TermsSettlingTest::atTheEnd);
         Check.sentence("then look again", TermsSettlingTest::lookAgain);
         Check.sentence("Settling is done only where stated.", TermsSettlingTest::notByOtherCalls);
@@ -115,6 +117,23 @@ final class TermsSettlingTest implements Answers {
         r.commit(3, 5);
         // 3 must be first; the others are all free after it, whatever the order of their commits.
         r.settledOrder(3, 1, 2, 4, 5);
+    }
+
+    private static void numbersFarApart() {
+        Run r = Scenes.farApart();
+        r.read(33, 0, 0);
+        r.write(64, 0, 6, DONE);
+        r.read(33, 1, 0);
+        r.write(1, 1, 7, DONE);
+        r.write(32, 0, 8, DONE);
+        r.commit(32, 1);
+        r.commit(64, 1);
+        r.commit(1, 1);
+        r.commit(2, 1);
+        r.settledOrder(2);
+        r.commit(33, 1);
+        // 1 and 64 are free after 33, and 32 after 64.
+        r.settledOrder(2, 33, 1, 64, 32);
     }
 
     private static void atTheEnd() {
