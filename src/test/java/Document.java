@@ -10,7 +10,7 @@ import java.util.regex.Pattern;
 
 /**
  * The sentences of ../shared/DOC.md, by part, so that each can be held against the tests that quote it.
- * A part is a promise's heading, or the bold words that open a paragraph of the Terms.
+ * A part is "What it is", a promise's heading, or the bold words that open a paragraph of the Terms.
  */
 final class Document {
     private static final Path FILE = Path.of("../shared/DOC.md");
@@ -29,7 +29,7 @@ final class Document {
         return Files.isReadable(FILE);
     }
 
-    /** Every part of the Terms and of the promises, with its sentences in order. */
+    /** Every part that says what must hold, with its sentences in order; the public face has none. */
     static Map<String, List<String>> parts() {
         try {
             Document document = new Document();
@@ -37,7 +37,7 @@ final class Document {
                 document.take(line);
             }
             document.endBlock();
-            document.parts.keySet().removeIf(p -> !p.startsWith("Promise ") && !p.startsWith("Terms, "));
+            document.parts.keySet().removeIf(p -> !p.matches("What it is|Terms, .*|Promise .*"));
             return document.parts;
         } catch (IOException e) {
             throw new IllegalStateException("../shared/DOC.md can't be read", e);

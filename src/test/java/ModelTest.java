@@ -4,7 +4,7 @@ final class ModelTest implements Answers {
     private static final int CALLS = 400;
     private static final int[] ODD = {LOW, -1000, -1, 0, 65, 1000, HIGH};
 
-    private long seed;
+    private final FixedNumbers numbers;
     private final String name;
     private final int slots;
     private final int items;
@@ -12,7 +12,7 @@ final class ModelTest implements Answers {
     private final Model model;
 
     private ModelTest(int run) {
-        seed = 1000003L * run + 17;
+        numbers = new FixedNumbers(run);
         slots = pick(20) - 1;
         // Few items make many conflicts, many items make long paths.
         items = pick(2) == 0 ? 1 + pick(3) : pick(11) - 1;
@@ -40,10 +40,8 @@ final class ModelTest implements Answers {
         }
     }
 
-    /** A fixed arithmetic sequence, so that every run of the test makes the same calls. */
     private int pick(int bound) {
-        seed = seed * 6364136223846793005L + 1442695040888963407L;
-        return (int) ((seed >>> 33) % bound);
+        return numbers.pick(bound);
     }
 
     private int anyTxn() {
